@@ -1,6 +1,10 @@
 import java.util.NoSuchElementException;
 
-/** A desk for one natural deduction in propositional logic; the document says what each call does. */
+/**
+ * A desk for one natural deduction in propositional logic; the document says what each call does. Each call tests
+ * its arguments in the order in which the document lists the exceptions, and changes nothing before the last test,
+ * so that a call that throws leaves everything as it was.
+ */
 public final class DeductionDesk {
     private static final int NONE = -1;
     private static final int LETTERS = 5;
@@ -18,7 +22,6 @@ public final class DeductionDesk {
     private final Search search;
     private final Text text;
 
-    /** Creates a desk without formulas and lemmas, with an empty proof. */
     public DeductionDesk() {
         Formulas none = new Formulas();
         Proof empty = new Proof(none);
@@ -31,50 +34,41 @@ public final class DeductionDesk {
 
     // ---- formulas
 
-    /** Makes the formula that is a letter. */
     public int letter(int letter) throws IllegalArgumentException, IllegalStateException {
         requireLetter(letter);
         return made(known.enter((char) ('a' + letter), NONE, NONE));
     }
 
-    /** Makes falsum. */
     public int falsum() throws IllegalStateException {
         return made(known.enter('F', NONE, NONE));
     }
 
-    /** Makes the negation of a formula. */
     public int negation(int formula) throws IndexOutOfBoundsException, IllegalStateException {
         requireFormula(formula);
         return made(known.enter('N', formula, NONE));
     }
 
-    /** Makes a conjunction. */
     public int conjunction(int left, int right) throws IndexOutOfBoundsException, IllegalStateException {
         return connected('K', left, right);
     }
 
-    /** Makes a disjunction. */
     public int disjunction(int left, int right) throws IndexOutOfBoundsException, IllegalStateException {
         return connected('A', left, right);
     }
 
-    /** Makes an implication. */
     public int implication(int left, int right) throws IndexOutOfBoundsException, IllegalStateException {
         return connected('C', left, right);
     }
 
-    /** Returns the number of formulas that are known. */
     public int formulas() {
         return known.count;
     }
 
-    /** Returns the size of a formula. */
     public int sizeOf(int formula) throws IndexOutOfBoundsException {
         requireFormula(formula);
         return known.size(formula);
     }
 
-    /** Returns a symbol of a formula. */
     public char symbolAt(int formula, int index) throws IndexOutOfBoundsException, NoSuchElementException {
         requireFormula(formula);
         if (index < 0 || index >= known.size(formula)) {
@@ -83,7 +77,6 @@ public final class DeductionDesk {
         return known.symbol(formula, index);
     }
 
-    /** Binds a letter to a formula for the lemmas that are used from now on; returns the one before or -1. */
     public int bind(int letter, int formula) throws IllegalArgumentException, IndexOutOfBoundsException {
         requireLetter(letter);
         requireFormula(formula);
@@ -94,7 +87,6 @@ public final class DeductionDesk {
 
     // ---- the proof
 
-    /** Enters a premise, outside of all boxes. */
     public int premise(int formula)
             throws IndexOutOfBoundsException, UnsupportedOperationException, IllegalStateException {
         requireFormula(formula);
@@ -103,14 +95,12 @@ public final class DeductionDesk {
         return proof.enter(formula, 'P');
     }
 
-    /** Enters an assumption, which opens a box. */
     public int assume(int formula) throws IndexOutOfBoundsException, IllegalStateException {
         requireFormula(formula);
         requireRoom();
         return proof.open(formula);
     }
 
-    /** Closes the innermost box that is open. */
     public int closeBox() throws IllegalStateException {
         if (proof.innermost == NONE) {
             throw new IllegalStateException("no box is open");
@@ -118,7 +108,6 @@ public final class DeductionDesk {
         return proof.close();
     }
 
-    /** Enters the formula of a line once more. */
     public int repeat(int line) throws IndexOutOfBoundsException, NoSuchElementException, IllegalStateException {
         requireLine(line);
         requireCitable(line);
@@ -126,7 +115,6 @@ public final class DeductionDesk {
         return proof.enterCiting(proof.formula(line), 'R', line, NONE);
     }
 
-    /** Enters the conjunction of the formulas of two lines. */
     public int makeConjunction(int line, int other)
             throws IndexOutOfBoundsException, NoSuchElementException, IllegalStateException {
         requireTwoLines(line, other);
@@ -135,7 +123,6 @@ public final class DeductionDesk {
         return proof.enterCiting(whole, 'k', line, other);
     }
 
-    /** Enters one of the two formulas of a conjunction. */
     public int useConjunction(int line, boolean isRight)
             throws IndexOutOfBoundsException, NoSuchElementException, UnsupportedOperationException,
             IllegalStateException {
@@ -149,7 +136,6 @@ public final class DeductionDesk {
                 : proof.enterCiting(known.left(whole), 'l', line, NONE);
     }
 
-    /** Enters a disjunction of the formula of a line and another formula. */
     public int makeDisjunction(int line, int formula, boolean isRight)
             throws IndexOutOfBoundsException, NoSuchElementException, IllegalStateException {
         requireLine(line);
@@ -161,7 +147,6 @@ public final class DeductionDesk {
         return proof.enterCiting(whole, isRight ? 'b' : 'a', line, NONE);
     }
 
-    /** Enters the common result of two boxes that begin with the two formulas of a disjunction. */
     public int useDisjunction(int line, int box, int other)
             throws IndexOutOfBoundsException, NoSuchElementException, UnsupportedOperationException,
             IllegalStateException {
@@ -181,7 +166,6 @@ public final class DeductionDesk {
         return entered;
     }
 
-    /** Enters the implication of the formula of the first line of a box and its result. */
     public int makeImplication(int box)
             throws IndexOutOfBoundsException, NoSuchElementException, IllegalStateException {
         requireBox(box);
@@ -193,7 +177,6 @@ public final class DeductionDesk {
         return entered;
     }
 
-    /** Enters the right formula of an implication. */
     public int useImplication(int line, int other)
             throws IndexOutOfBoundsException, NoSuchElementException, UnsupportedOperationException,
             IllegalStateException {
@@ -204,7 +187,6 @@ public final class DeductionDesk {
         return proof.enterCiting(known.right(whole), 'm', line, other);
     }
 
-    /** Enters the negation of the formula of the first line of a box whose result is falsum. */
     public int makeNegation(int box)
             throws IndexOutOfBoundsException, NoSuchElementException, UnsupportedOperationException,
             IllegalStateException {
@@ -218,7 +200,6 @@ public final class DeductionDesk {
         return entered;
     }
 
-    /** Enters falsum, from a negation and the formula that is negated. */
     public int useNegation(int line, int other)
             throws IndexOutOfBoundsException, NoSuchElementException, UnsupportedOperationException,
             IllegalStateException {
@@ -230,7 +211,6 @@ public final class DeductionDesk {
         return proof.enterCiting(falsehood, 'n', line, other);
     }
 
-    /** Enters any formula, from falsum. */
     public int fromFalsum(int line, int formula)
             throws IndexOutOfBoundsException, NoSuchElementException, UnsupportedOperationException,
             IllegalStateException {
@@ -242,7 +222,6 @@ public final class DeductionDesk {
         return proof.enterCiting(formula, 'x', line, NONE);
     }
 
-    /** Enters the formula that is negated twice. */
     public int doubleNegation(int line)
             throws IndexOutOfBoundsException, NoSuchElementException, UnsupportedOperationException,
             IllegalStateException {
@@ -255,7 +234,6 @@ public final class DeductionDesk {
         return proof.enterCiting(known.left(negated), 'd', line, NONE);
     }
 
-    /** Begins a new proof; returns the number of lines of the one that is given up. */
     public int newProof() {
         int before = proof.lineCount;
         proof.clear();
@@ -264,7 +242,6 @@ public final class DeductionDesk {
 
     // ---- lemmas
 
-    /** Keeps the proof as a lemma. */
     public int keepLemma() throws NoSuchElementException, UnsupportedOperationException, IllegalStateException {
         requireLines();
         requireShape(proof.innermostOf(proof.lineCount - 1) == NONE);
@@ -275,7 +252,6 @@ public final class DeductionDesk {
         return kept.keep(proof);
     }
 
-    /** Enters the conclusion of an instance of a lemma. */
     public int useLemma(int lemma, int line, int other)
             throws IndexOutOfBoundsException, NoSuchElementException, UnsupportedOperationException,
             IllegalStateException {
@@ -302,12 +278,10 @@ public final class DeductionDesk {
         return proof.enterCiting(made(known.read(text)), 'L', first, second);
     }
 
-    /** Returns the number of lemmas. */
     public int lemmas() {
         return kept.count;
     }
 
-    /** Returns the conclusion of a lemma. */
     public int conclusionOf(int lemma) throws IndexOutOfBoundsException {
         requireLemma(lemma);
         return kept.conclusion(lemma);
@@ -315,53 +289,44 @@ public final class DeductionDesk {
 
     // ---- questions about the proof
 
-    /** Returns the number of lines. */
     public int lines() {
         return proof.lineCount;
     }
 
-    /** Returns the formula of a line. */
     public int formulaOf(int line) throws IndexOutOfBoundsException {
         requireLine(line);
         return proof.formula(line);
     }
 
-    /** Returns the rule of a line. */
     public char ruleOf(int line) throws IndexOutOfBoundsException {
         requireLine(line);
         return proof.rule(line);
     }
 
-    /** Returns the number of boxes in which a line lies, open or closed. */
     public int depthOf(int line) throws IndexOutOfBoundsException {
         requireLine(line);
         return proof.depth(line);
     }
 
-    /** Returns whether a line can be cited. */
     public boolean canCite(int line) throws IndexOutOfBoundsException {
         requireLine(line);
         return proof.isCitable(line);
     }
 
-    /** Returns the number of boxes, open and closed. */
     public int boxes() {
         return proof.boxCount;
     }
 
-    /** Returns whether a box can be cited. */
     public boolean canCiteBox(int box) throws IndexOutOfBoundsException {
         requireBox(box);
         return proof.isCitableBox(box);
     }
 
-    /** Returns the result of a box, open or closed. */
     public int resultOf(int box) throws IndexOutOfBoundsException {
         requireBox(box);
         return proof.result(box);
     }
 
-    /** Returns how many lines the last line needs. */
     public int needed() throws NoSuchElementException {
         requireLines();
         return proof.countNeeded();
@@ -369,19 +334,16 @@ public final class DeductionDesk {
 
     // ---- gaps and normal forms
 
-    /** Returns the distance of a goal, found by a queue in ascending order. */
     public int distance(int formula) throws IndexOutOfBoundsException, NoSuchElementException {
         requireFormula(formula);
         return found(search.byQueue(formula));
     }
 
-    /** Returns the distance of a goal, found by rounds. */
     public int distanceByRounds(int formula) throws IndexOutOfBoundsException, NoSuchElementException {
         requireFormula(formula);
         return found(search.byRounds(formula));
     }
 
-    /** Makes the formula that one step toward the normal form gives. */
     public int normalStep(int formula)
             throws IndexOutOfBoundsException, NoSuchElementException, IllegalStateException {
         requireFormula(formula);
@@ -392,14 +354,12 @@ public final class DeductionDesk {
         return made(known.read(text));
     }
 
-    /** Returns the number of steps to the normal form. */
     public int normalSteps(int formula) throws IndexOutOfBoundsException {
         requireFormula(formula);
         text.copy(known, formula);
         return text.stepToEnd();
     }
 
-    /** Makes the normal form of a formula. */
     public int normalForm(int formula) throws IndexOutOfBoundsException, IllegalStateException {
         requireFormula(formula);
         text.copy(known, formula);
@@ -409,13 +369,11 @@ public final class DeductionDesk {
 
     // ---- truth
 
-    /** Returns the number of valuations for which a formula is true, from its table. */
     public int models(int formula) throws IndexOutOfBoundsException {
         requireFormula(formula);
         return Integer.bitCount(known.table(formula));
     }
 
-    /** Returns the number of valuations for which a formula is true, one valuation after the other. */
     public int modelsByRows(int formula) throws IndexOutOfBoundsException {
         requireFormula(formula);
         int trueOnes = 0;
@@ -427,25 +385,21 @@ public final class DeductionDesk {
         return trueOnes;
     }
 
-    /** Returns whether a formula follows from the formulas of all lines that can be cited. */
     public boolean follows(int formula) throws IndexOutOfBoundsException {
         requireFormula(formula);
         return isCovered(proof.citableTable(), formula);
     }
 
-    /** Returns whether a line follows from the premises and the assumptions of its boxes. */
     public boolean isSound(int line) throws IndexOutOfBoundsException {
         requireLine(line);
         return isCovered(proof.premiseTable() & proof.assumptionTable(line), proof.formula(line));
     }
 
-    /** Returns the share of the valuations for which a formula is true. */
     public float share(int formula) throws IndexOutOfBoundsException {
         requireFormula(formula);
         return (float) Integer.bitCount(known.table(formula)) / (float) VALUATIONS;
     }
 
-    /** Returns the mean size of the formulas of all lines. */
     public double meanSize() throws ArithmeticException {
         if (proof.lineCount == 0) {
             throw new ArithmeticException("the proof has no lines");
@@ -1129,8 +1083,8 @@ public final class DeductionDesk {
         boolean matches(int lemma, int first, int second) {
             int premises = premiseCount(lemma);
             images.fill(NONE);
-            if (premises > 0 && !setImage(firstPremises.at(lemma), first)) {
-                return false;
+            if (premises > 0) {
+                images.put(firstPremises.at(lemma), first);
             }
             if (premises > 1 && !setImage(secondPremises.at(lemma), second)) {
                 return false;

@@ -66,10 +66,13 @@ public final class GapTest {
         distance("a disjunction of missing ones", desk, "Acd", NONE);
         distance("a disjunction is not used", Desks.proving("Aaa"), "a", NONE);
 
-        DeductionDesk double1 = Desks.proving("NNa", "NNNb");
-        distance("a double negation", double1, "a", 1);
-        distance("a double negation of a negation", double1, "Nb", 1);
-        distance("a negation is not doubled", double1, "NNNNb", NONE);
+        // Kba is reached at 5 from a and b, before it is reached at 4 by e, which is found later than a, b and c.
+        distance("a nearer way that is found later", Desks.proving("KKabKcd", "Cce", "CeKba"), "Kba", 4);
+
+        DeductionDesk doubled = Desks.proving("NNa", "NNNb");
+        distance("a double negation", doubled, "a", 1);
+        distance("a double negation of a negation", doubled, "Nb", 1);
+        distance("a negation is not doubled", doubled, "NNNNb", NONE);
         distance("one negation is not two", Desks.proving("Na"), "a", NONE);
     }
 

@@ -18,6 +18,7 @@ public final class LemmaTest {
         testUseLemma();
         testBindings();
         testInstances();
+        testFalsumInPremises();
         testTwoPremises();
         testNewFormulas();
         testUseLemmaRefused();
@@ -222,6 +223,27 @@ public final class LemmaTest {
             } else {
                 DeductionDesk desk = using(each[0], each[1], each[2]);
                 CHECK.same(what, Desks.shown(desk, desk.useLemma(0, 1, 0)), each[3]);
+            }
+        }
+    }
+
+    /** Lemmas of one premise, in which falsum is the first formula that becomes known. */
+    private static void testFalsumInPremises() {
+        String[][] cases = {{"F", "F", "fits"}, {"F", "a", ""}, {"NF", "NF", "fits"}, {"NF", "Na", ""},
+            {"KFa", "KFb", "fits"}, {"KFa", "Kbb", ""}, {"KFa", "KKFFF", ""}, {"AFF", "Aaa", ""}};
+        for (String[] each : cases) {
+            Supplier<DeductionDesk> prepare = () -> {
+                DeductionDesk x = Desks.proving(each[0]);
+                x.keepLemma();
+                x.newProof();
+                x.premise(Desks.make(x, each[1]));
+                return x;
+            };
+            if (each[2].equals("fits")) {
+                CHECK.same("promise 28: " + each[0] + " with " + each[1], prepare.get().useLemma(0, 0, 0), 1);
+            } else {
+                CHECK.refuses("promise 28: " + each[0] + " with " + each[1], SHAPE, prepare,
+                        x -> x.useLemma(0, 0, 0));
             }
         }
     }

@@ -137,9 +137,10 @@ public final class TwinTest {
         if (twin.formulas() > 0 && twin.lines() <= 50) {
             int left = pick(twin.formulas());
             int right = pick(twin.formulas());
-            switch (pick(3)) {
+            switch (pick(4)) {
                 case 0 -> sendCases(left, right);
                 case 1 -> sendRefutation(left);
+                case 2 -> sendGaps();
                 default -> sendLemma(left, right);
             }
         }
@@ -199,6 +200,29 @@ public final class TwinTest {
             send("useLemma", lemma, pick(4), pick(4));
         }
         sendChosen("useLemma");
+    }
+
+    /** Asks for distances where there are many ways, of which the shorter ones are found late. */
+    private void sendGaps() {
+        if (twin.formulas() > 120) {
+            return;
+        }
+        send("newProof");
+        send("premise", pick(twin.formulas()));
+        int[] links = new int[6];
+        for (int i = 0; i < links.length; i++) {
+            links[i] = pick(twin.formulas());
+        }
+        for (int i = 0; i < 9; i++) {
+            int left = i == 0 ? twin.formulaOf(0) : links[pick(links.length)];
+            String pair = send(pick(2) == 0 ? "conjunction" : "disjunction", left, links[pick(links.length)]);
+            boolean isPair = pick(2) == 0 && !pair.startsWith("throws");
+            premiseMade("implication", isPair ? Integer.parseInt(pair) : left, links[pick(links.length)]);
+        }
+        for (int link : links) {
+            send("distance", link);
+            send("distanceByRounds", link);
+        }
     }
 
     private void premiseMade(String name, Object... arguments) {
