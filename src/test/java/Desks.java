@@ -1,5 +1,18 @@
+import java.util.ArrayList;
+import java.util.List;
+import java.util.function.Consumer;
+import java.util.function.Function;
+
 /** What the tests do with desks again and again. */
 final class Desks {
+    /** The calls that enter a line on the workshop's desk, in the order in which the document lists the rules. */
+    static final List<Consumer<DeductionDesk>> ENTERING = List.of(
+            x -> x.premise(1), x -> x.assume(1), x -> x.repeat(1), x -> x.makeConjunction(2, 3),
+            x -> x.useConjunction(2, false), x -> x.useConjunction(2, true), x -> x.makeDisjunction(4, 2, false),
+            x -> x.makeDisjunction(4, 2, true), x -> x.useDisjunction(1, 0, 1), x -> x.makeImplication(0),
+            x -> x.useImplication(3, 4), x -> x.makeNegation(2), x -> x.useNegation(5, 4), x -> x.fromFalsum(0, 5),
+            x -> x.doubleNegation(6), x -> x.useLemma(0, 0, 0));
+
     private Desks() {
     }
 
@@ -70,46 +83,160 @@ final class Desks {
         return desk;
     }
 
+    /** Makes formulas of one letter, by the connectives alone, until this number of formulas is known. */
+    static DeductionDesk fillWith(DeductionDesk desk, int letter, int due) {
+        List<Integer> chain = new ArrayList<>();
+        int count = desk.formulas();
+        for (int i = 0; count < due; i++) {
+            int leaf = i == 0 ? -1 : chain.get(0);
+            int part = i == 0 ? -1 : chain.get((i - 1) / 3);
+            int made = i == 0 ? desk.letter(letter)
+                    : i % 3 == 1 ? desk.disjunction(leaf, part)
+                    : i % 3 == 2 ? desk.implication(leaf, part) : desk.conjunction(leaf, part);
+            chain.add(made);
+            count = made == count ? count + 1 : count;
+        }
+        return desk;
+    }
+
     /** Repeats a line until there are 60. */
     static DeductionDesk fillLines(DeductionDesk desk, int line) {
-        for (int lines = desk.lines(); lines < 60; lines++) {
+        return fillLinesTo(desk, line, 60);
+    }
+
+    static DeductionDesk fillLinesTo(DeductionDesk desk, int line, int due) {
+        for (int lines = desk.lines(); lines < due; lines++) {
             desk.repeat(line);
         }
         return desk;
     }
 
-    /** Tells what can be asked of a desk, in at most some 220 calls; the last of them change it. */
-    static String picture(DeductionDesk desk) {
-        StringBuilder text = new StringBuilder();
-        int formulas = desk.formulas();
-        int lines = desk.lines();
-        int boxes = desk.boxes();
-        int lemmas = desk.lemmas();
-        text.append(formulas).append(' ').append(lines).append(' ').append(boxes).append(' ').append(lemmas);
-        for (int i = Math.max(0, formulas - 3); i < formulas; i++) {
-            text.append(' ').append(symbols(desk, i));
+    /** Appends a closed box; line 0 has to be falsum. */
+    static DeductionDesk box(DeductionDesk desk, String assumption, String result) {
+        desk.assume(make(desk, assumption));
+        desk.fromFalsum(0, make(desk, result));
+        desk.closeBox();
+        return desk;
+    }
+
+    /** Appends a box of one line, which cannot be cited any more. */
+    static DeductionDesk closed(DeductionDesk desk, String assumption) {
+        desk.assume(make(desk, assumption));
+        desk.closeBox();
+        return desk;
+    }
+
+    /**
+     * Lines 0 to 7: a premise, box 0 with box 1 and box 2 in it, a line between these and one behind, and box 3,
+     * which is open as well as box 4 in it; box 0 to 2 are closed. Formulas 0 to 5 are a to e and falsum.
+     */
+    static DeductionDesk nested() {
+        DeductionDesk desk = proving("a");
+        for (String each : new String[] {"b", "c", "d", "e", "F"}) {
+            make(desk, each);
         }
-        for (int i = Math.max(0, lines - 6); i < lines; i++) {
+        desk.assume(1);
+        desk.assume(2);
+        desk.closeBox();
+        desk.repeat(0);
+        desk.assume(3);
+        desk.closeBox();
+        desk.closeBox();
+        desk.assume(4);
+        desk.repeat(0);
+        desk.assume(5);
+        return desk;
+    }
+
+    /**
+     * A desk on which each call that enters a line can be done. Lines 0 to 6 are the premises F, Aab, Kab, Cab, a,
+     * Na and NNa; the closed boxes 0 to 2 lead from a to c, from b to c and from a to F, by lines 7 to 12. Lemma 0
+     * tells that F follows from F. Formulas 0 to 7 are F, a, b, Aab, Kab, Cab, Na and NNa, and 8 is c.
+     */
+    static DeductionDesk workshop() {
+        DeductionDesk desk = proving("F");
+        desk.keepLemma();
+        for (String each : new String[] {"Aab", "Kab", "Cab", "a", "Na", "NNa"}) {
+            desk.premise(make(desk, each));
+        }
+        return box(box(box(desk, "a", "c"), "b", "c"), "a", "F");
+    }
+
+    /**
+     * A desk on which each formula of a list has a great distance: an implication from the one before adds 1,
+     * and one from a conjunction of the one before with itself adds 2 to twice its distance. The formulas that
+     * begin with e cannot be used, since e is never reached.
+     */
+    static DeductionDesk chain(String steps) {
+        List<String> fresh = new ArrayList<>(List.of("b", "c", "d"));
+        for (String end : new String[] {"", "Ce", "CeCe"}) {
+            for (String letter : new String[] {"a", "b", "c", "d", "e"}) {
+                fresh.add("Ce" + end + letter);
+            }
+        }
+        DeductionDesk desk = proving("a");
+        String last = "a";
+        for (int i = 0; i < steps.length(); i++) {
+            String left = steps.charAt(i) == 'd' ? "K" + last + last : last;
+            last = fresh.get(i);
+            desk.premise(make(desk, "C" + left + last));
+        }
+        return desk;
+    }
+
+    /** Returns what can be seen of a desk, in views of some 250 calls at most; they change the desk. */
+    static List<Function<DeductionDesk, String>> viewsOf(DeductionDesk desk) {
+        List<Function<DeductionDesk, String>> views = new ArrayList<>();
+        views.add(Desks::viewOfLines);
+        views.add(Desks::viewOfBoxes);
+        int formulas = desk.formulas();
+        for (int first = 0; first < formulas; first += 8) {
+            int start = first;
+            views.add(x -> viewOfFormulas(x, start));
+        }
+        return views;
+    }
+
+    private static String viewOfFormulas(DeductionDesk desk, int first) {
+        int formulas = desk.formulas();
+        StringBuilder text = new StringBuilder().append(formulas);
+        for (int i = first; i < Math.min(first + 8, formulas); i++) {
+            text.append(' ').append(symbols(desk, i)).append(desk.models(i));
+        }
+        return text.toString();
+    }
+
+    private static String viewOfLines(DeductionDesk desk) {
+        int lines = desk.lines();
+        StringBuilder text = new StringBuilder().append(lines);
+        for (int i = 0; i < lines; i++) {
             text.append(' ').append(desk.formulaOf(i)).append(desk.ruleOf(i)).append(desk.depthOf(i));
             text.append(desk.canCite(i));
-        }
-        for (int i = Math.max(0, boxes - 3); i < boxes; i++) {
-            text.append(' ').append(desk.canCiteBox(i)).append(desk.resultOf(i));
-        }
-        for (int i = 0; i < lemmas; i++) {
-            text.append(' ').append(desk.conclusionOf(i));
         }
         if (lines > 0) {
             text.append(' ').append(desk.needed()).append(' ').append(desk.meanSize());
         }
-        for (int i = 0; i < 5 && formulas > 0; i++) {
+        return text.append(' ').append(desk.newProof()).toString();
+    }
+
+    private static String viewOfBoxes(DeductionDesk desk) {
+        int boxes = desk.boxes();
+        int lemmas = desk.lemmas();
+        StringBuilder text = new StringBuilder().append(boxes).append(' ').append(lemmas);
+        for (int i = 0; i < boxes; i++) {
+            text.append(' ').append(desk.canCiteBox(i)).append(desk.resultOf(i));
+        }
+        for (int i = 0; i < 5 && desk.formulas() > 0; i++) {
             text.append(' ').append(desk.bind(i, 0));
         }
-        try {
-            text.append(' ').append(desk.closeBox());
-        } catch (IllegalStateException e) {
-            text.append(" no box");
+        for (int i = 0; i < lemmas; i++) {
+            int lemma = i;
+            text.append(' ').append(desk.conclusionOf(i)).append(Check.outcomeOf(desk, x -> x.useLemma(lemma, 0, 1)));
+            text.append(Check.outcomeOf(desk, x -> x.useLemma(lemma, 1, 0)));
         }
-        return text.append(' ').append(desk.newProof()).toString();
+        for (int i = 0; i <= boxes; i++) {
+            text.append(' ').append(Check.outcomeOf(desk, x -> x.closeBox()));
+        }
+        return text.toString();
     }
 }

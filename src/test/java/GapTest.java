@@ -1,5 +1,3 @@
-import java.util.ArrayList;
-import java.util.List;
 import java.util.NoSuchElementException;
 import java.util.function.Supplier;
 
@@ -121,42 +119,20 @@ public final class GapTest {
         distance("parts of the goal are in view", known, "KAdAdaa", 3);
     }
 
-    /**
-     * A desk on which each formula of a list has a great distance: an implication from the one before adds 1,
-     * and one from a conjunction of the one before with itself adds 2 to twice its distance. The formulas that
-     * begin with e cannot be used, since e is never reached.
-     */
-    private static DeductionDesk chain(String steps) {
-        List<String> fresh = new ArrayList<>(List.of("b", "c", "d"));
-        for (String end : new String[] {"", "Ce", "CeCe"}) {
-            for (String letter : new String[] {"a", "b", "c", "d", "e"}) {
-                fresh.add("Ce" + end + letter);
-            }
-        }
-        DeductionDesk desk = Desks.proving("a");
-        String last = "a";
-        for (int i = 0; i < steps.length(); i++) {
-            String left = steps.charAt(i) == 'd' ? "K" + last + last : last;
-            last = fresh.get(i);
-            desk.premise(Desks.make(desk, "C" + left + last));
-        }
-        return desk;
-    }
-
     private static void testGreatDistances() {
         String steps = "dd+d+d+dddd+ddd";
-        distance("a great one", chain(steps), "CeCeCeb", 4998);
-        distance("9997 by the same twice", chain(steps), "KCeCeCebCeCeCeb", 9997);
-        distance("9998", chain(steps + "d"), "CeCeCec", 9998);
-        distance("9999", chain(steps + "d+"), "CeCeCed", 9999);
-        distance("9999 by a conjunction", chain(steps + "d"), "KCeCeCeca", 9999);
-        distance("9999 by a disjunction", chain(steps + "d"), "ACeCeCece", 9999);
-        distance("10000", chain(steps + "d++"), "CeCeCee", NONE);
-        distance("10000 by a conjunction", chain(steps + "d+"), "KCeCeCeda", NONE);
-        distance("10000 by a disjunction", chain(steps + "d+"), "ACeCeCede", NONE);
-        distance("19999", chain(steps + "d+"), "KCeCeCedCeCeCed", NONE);
-        distance("far beyond", chain("dddddddddddddddddd"), "CeCeCee", NONE);
-        distance("a nearer way beside a great one", chain(steps + "d++"), "AaCeCeCee", 1);
+        distance("a great one", Desks.chain(steps), "CeCeCeb", 4998);
+        distance("9997 by the same twice", Desks.chain(steps), "KCeCeCebCeCeCeb", 9997);
+        distance("9998", Desks.chain(steps + "d"), "CeCeCec", 9998);
+        distance("9999", Desks.chain(steps + "d+"), "CeCeCed", 9999);
+        distance("9999 by a conjunction", Desks.chain(steps + "d"), "KCeCeCeca", 9999);
+        distance("9999 by a disjunction", Desks.chain(steps + "d"), "ACeCeCece", 9999);
+        distance("10000", Desks.chain(steps + "d++"), "CeCeCee", NONE);
+        distance("10000 by a conjunction", Desks.chain(steps + "d+"), "KCeCeCeda", NONE);
+        distance("10000 by a disjunction", Desks.chain(steps + "d+"), "ACeCeCede", NONE);
+        distance("19999", Desks.chain(steps + "d+"), "KCeCeCedCeCeCed", NONE);
+        distance("far beyond", Desks.chain("dddddddddddddddddd"), "CeCeCee", NONE);
+        distance("a nearer way beside a great one", Desks.chain(steps + "d++"), "AaCeCeCee", 1);
     }
 
     private static void testDistancesRefused() {

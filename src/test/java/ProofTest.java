@@ -45,21 +45,6 @@ public final class ProofTest {
         }
     }
 
-    /** Appends a closed box; line 0 has to be falsum. */
-    private static DeductionDesk box(DeductionDesk desk, String assumption, String result) {
-        desk.assume(Desks.make(desk, assumption));
-        desk.fromFalsum(0, Desks.make(desk, result));
-        desk.closeBox();
-        return desk;
-    }
-
-    /** Appends a box whose first line cannot be cited any more; returns the desk. */
-    private static DeductionDesk closed(DeductionDesk desk, String assumption) {
-        desk.assume(Desks.make(desk, assumption));
-        desk.closeBox();
-        return desk;
-    }
-
     private static DeductionDesk fullOfLines(DeductionDesk desk) {
         return Desks.fillLines(desk, 0);
     }
@@ -69,7 +54,7 @@ public final class ProofTest {
         entered("promise 12: a premise", desk, desk.premise(2), "Kab", 'P');
         entered("promise 12: the same once more", desk, desk.premise(2), "Kab", 'P');
         CHECK.same("promise 12: it lies in no box", desk.depthOf(1), 0);
-        closed(desk, "a");
+        Desks.closed(desk, "a");
         entered("promise 12: behind a closed box", desk, desk.premise(3), "c", 'P');
         Supplier<DeductionDesk> open = () -> {
             DeductionDesk x = Desks.with("a", "b");
@@ -120,7 +105,7 @@ public final class ProofTest {
         desk.assume(1);
         CHECK.same("promise 14: the next box", desk.closeBox(), 3);
         CHECK.refuses("promise 14: no box", STATE, () -> Desks.proving("a"), x -> x.closeBox());
-        CHECK.refuses("promise 14: closed boxes only", STATE, () -> closed(Desks.proving("a"), "b"),
+        CHECK.refuses("promise 14: closed boxes only", STATE, () -> Desks.closed(Desks.proving("a"), "b"),
                 x -> x.closeBox());
         DeductionDesk sixty = Desks.with("a");
         sixty.assume(0);
@@ -133,7 +118,7 @@ public final class ProofTest {
         desk.assume(0);
         entered("promise 15: a line from outside of the box", desk, desk.repeat(0), "a", 'R');
         entered("promise 15: a line of the box", desk, desk.repeat(3), "a", 'R');
-        Supplier<DeductionDesk> behind = () -> closed(Desks.proving("a"), "b");
+        Supplier<DeductionDesk> behind = () -> Desks.closed(Desks.proving("a"), "b");
         CHECK.refuses("promise 15: a line of a closed box", NO_SUCH, behind, x -> x.repeat(1));
         refusesNumbers("promise 15: no line", behind, 2, (x, n) -> x.repeat(n));
         CHECK.refuses("promise 15: the 61st line", STATE, () -> fullOfLines(behind.get()), x -> x.repeat(0));
@@ -162,7 +147,7 @@ public final class ProofTest {
         entered("promise 16: two lines", desk, desk.makeConjunction(0, 1), "KaNb", 'k');
         entered("promise 16: the other way round", desk, desk.makeConjunction(1, 0), "KNba", 'k');
         entered("promise 16: one line twice", desk, desk.makeConjunction(2, 2), "KKaNbKaNb", 'k');
-        Supplier<DeductionDesk> behind = () -> closed(Desks.proving("a"), "b");
+        Supplier<DeductionDesk> behind = () -> Desks.closed(Desks.proving("a"), "b");
         refusesNumbers("promise 16: no first line", behind, 2, (x, n) -> x.makeConjunction(n, 0));
         refusesNumbers("promise 16: no second line", behind, 2, (x, n) -> x.makeConjunction(0, n));
         refusesNumbers("promise 16: no second line, before what cannot be cited", behind, 2,
@@ -188,7 +173,7 @@ public final class ProofTest {
         entered("promise 17: the left formula", desk, desk.useConjunction(0, false), "Na", 'l');
         entered("promise 17: the right formula", desk, desk.useConjunction(0, true), "b", 'r');
         CHECK.same("promise 17: no formula is made", desk.formulas(), 4);
-        Supplier<DeductionDesk> behind = () -> closed(Desks.proving("Kab", "Aab", "Cab", "NKab", "a", "F"), "Kaa");
+        Supplier<DeductionDesk> behind = () -> Desks.closed(Desks.proving("Kab", "Aab", "Cab", "NKab", "a", "F"), "Kaa");
         refusesNumbers("promise 17: no line", behind, 7, (x, n) -> x.useConjunction(n, true));
         CHECK.refuses("promise 17: not cited", NO_SUCH, behind, x -> x.useConjunction(6, false));
         for (int line = 1; line < 6; line++) {
@@ -206,7 +191,7 @@ public final class ProofTest {
         int other = Desks.make(desk, "Nb");
         entered("promise 18: the line is the left one", desk, desk.makeDisjunction(0, other, false), "AaNb", 'a');
         entered("promise 18: the line is the right one", desk, desk.makeDisjunction(0, other, true), "ANba", 'b');
-        Supplier<DeductionDesk> behind = () -> closed(Desks.proving("a"), "b");
+        Supplier<DeductionDesk> behind = () -> Desks.closed(Desks.proving("a"), "b");
         refusesNumbers("promise 18: no line", behind, 2, (x, n) -> x.makeDisjunction(n, 0, true));
         refusesNumbers("promise 18: no formula", behind, 2, (x, n) -> x.makeDisjunction(0, n, true));
         refusesNumbers("promise 18: no formula, first", behind, 2, (x, n) -> x.makeDisjunction(1, n, true));
@@ -225,13 +210,13 @@ public final class ProofTest {
     }
 
     private static void testUseDisjunction() {
-        DeductionDesk desk = box(box(Desks.proving("F", "ANab"), "Na", "c"), "b", "c");
+        DeductionDesk desk = Desks.box(Desks.box(Desks.proving("F", "ANab"), "Na", "c"), "b", "c");
         entered("promise 19: two boxes", desk, desk.useDisjunction(1, 0, 1), "c", 'v');
         desk.premise(Desks.make(desk, "Abb"));
         entered("promise 19: the same box twice", desk, desk.useDisjunction(7, 1, 1), "c", 'v');
-        closed(closed(desk, "Na"), "b");
+        Desks.closed(Desks.closed(desk, "Na"), "b");
         Supplier<DeductionDesk> cases = () -> {
-            DeductionDesk x = box(box(box(Desks.proving("F", "ANab", "KNab"), "Na", "c"), "b", "c"), "b", "d");
+            DeductionDesk x = Desks.box(Desks.box(Desks.box(Desks.proving("F", "ANab", "KNab"), "Na", "c"), "b", "c"), "b", "d");
             x.assume(Desks.make(x, "b"));
             x.assume(Desks.make(x, "ANab"));
             x.closeBox();
@@ -266,20 +251,20 @@ public final class ProofTest {
     }
 
     private static void testMakeImplication() {
-        DeductionDesk desk = box(Desks.proving("F"), "Na", "b");
+        DeductionDesk desk = Desks.box(Desks.proving("F"), "Na", "b");
         entered("promise 20: a box", desk, desk.makeImplication(0), "CNab", 'c');
-        entered("promise 20: a box of one line", closed(desk, "a"), desk.makeImplication(1), "Caa", 'c');
+        entered("promise 20: a box of one line", Desks.closed(desk, "a"), desk.makeImplication(1), "Caa", 'c');
         desk.assume(Desks.make(desk, "a"));
-        box(desk, "d", "e");
+        Desks.box(desk, "d", "e");
         entered("promise 20: a box in an open one", desk, desk.makeImplication(3), "Cde", 'c');
         desk.assume(Desks.make(desk, "b"));
         desk.closeBox();
         desk.closeBox();
         entered("promise 20: the last line that lies directly in it", desk, desk.makeImplication(2), "CaCde", 'c');
         Supplier<DeductionDesk> boxes = () -> {
-            DeductionDesk x = box(Desks.proving("F"), "a", "b");
+            DeductionDesk x = Desks.box(Desks.proving("F"), "a", "b");
             x.assume(0);
-            closed(x, "a");
+            Desks.closed(x, "a");
             x.closeBox();
             x.assume(0);
             return x;
@@ -290,16 +275,16 @@ public final class ProofTest {
         Supplier<DeductionDesk> full = () -> fullOfLines(boxes.get());
         CHECK.refuses("promise 20: the 61st line", STATE, full, x -> x.makeImplication(0));
         CHECK.refuses("promise 20: an open box, first", NO_SUCH, full, x -> x.makeImplication(3));
-        CHECK.refuses("promise 20: size 31", STATE, () -> closed(Desks.proving("F"), "N".repeat(14) + "a"),
+        CHECK.refuses("promise 20: size 31", STATE, () -> Desks.closed(Desks.proving("F"), "N".repeat(14) + "a"),
                 x -> x.makeImplication(0));
         CHECK.refuses("promise 20: the 151st formula", STATE,
-                () -> Desks.fillFormulas(box(Desks.proving("F"), "a", "b")), x -> x.makeImplication(0));
+                () -> Desks.fillFormulas(Desks.box(Desks.proving("F"), "a", "b")), x -> x.makeImplication(0));
     }
 
     private static void testUseImplication() {
         DeductionDesk desk = Desks.proving("CNab", "Na");
         entered("promise 21: the right formula", desk, desk.useImplication(0, 1), "b", 'm');
-        Supplier<DeductionDesk> lines = () -> closed(Desks.proving("Cab", "a", "b", "Aab", "Kab"), "Cab");
+        Supplier<DeductionDesk> lines = () -> Desks.closed(Desks.proving("Cab", "a", "b", "Aab", "Kab"), "Cab");
         refusesNumbers("promise 21: no first line", lines, 6, (x, n) -> x.useImplication(n, 1));
         refusesNumbers("promise 21: no second line", lines, 6, (x, n) -> x.useImplication(0, n));
         refusesNumbers("promise 21: no second line, first", lines, 6, (x, n) -> x.useImplication(5, n));
@@ -316,11 +301,11 @@ public final class ProofTest {
     }
 
     private static void testMakeNegation() {
-        DeductionDesk desk = box(Desks.proving("F"), "Kab", "F");
+        DeductionDesk desk = Desks.box(Desks.proving("F"), "Kab", "F");
         entered("promise 22: a box with falsum", desk, desk.makeNegation(0), "NKab", 'i');
-        entered("promise 22: falsum itself", closed(desk, "F"), desk.makeNegation(1), "NF", 'i');
+        entered("promise 22: falsum itself", Desks.closed(desk, "F"), desk.makeNegation(1), "NF", 'i');
         Supplier<DeductionDesk> boxes = () -> {
-            DeductionDesk x = box(box(box(Desks.proving("F"), "a", "F"), "a", "b"), "F", "NF");
+            DeductionDesk x = Desks.box(Desks.box(Desks.box(Desks.proving("F"), "a", "F"), "a", "b"), "F", "NF");
             x.assume(0);
             return x;
         };
@@ -332,10 +317,10 @@ public final class ProofTest {
         CHECK.refuses("promise 22: the 61st line", STATE, full, x -> x.makeNegation(0));
         CHECK.refuses("promise 22: no falsum, first", SHAPE, full, x -> x.makeNegation(1));
         CHECK.refuses("promise 22: an open box, first", NO_SUCH, full, x -> x.makeNegation(3));
-        CHECK.refuses("promise 22: size 31", STATE, () -> box(Desks.proving("F"), "N".repeat(29) + "a", "F"),
+        CHECK.refuses("promise 22: size 31", STATE, () -> Desks.box(Desks.proving("F"), "N".repeat(29) + "a", "F"),
                 x -> x.makeNegation(0));
         CHECK.refuses("promise 22: the 151st formula", STATE,
-                () -> Desks.fillFormulas(box(Desks.proving("F"), "Kab", "F")), x -> x.makeNegation(0));
+                () -> Desks.fillFormulas(Desks.box(Desks.proving("F"), "Kab", "F")), x -> x.makeNegation(0));
     }
 
     private static void testUseNegation() {
@@ -343,7 +328,7 @@ public final class ProofTest {
         CHECK.same("promise 23: falsum is not known", desk.formulas(), 4);
         entered("promise 23: falsum", desk, desk.useNegation(0, 1), "F", 'n');
         CHECK.same("promise 23: falsum has become known", desk.formulas(), 5);
-        Supplier<DeductionDesk> lines = () -> closed(Desks.proving("Na", "a", "NNa", "b"), "Na");
+        Supplier<DeductionDesk> lines = () -> Desks.closed(Desks.proving("Na", "a", "NNa", "b"), "Na");
         refusesNumbers("promise 23: no first line", lines, 5, (x, n) -> x.useNegation(n, 1));
         refusesNumbers("promise 23: no second line", lines, 5, (x, n) -> x.useNegation(0, n));
         refusesNumbers("promise 23: no second line, first", lines, 5, (x, n) -> x.useNegation(4, n));
@@ -366,7 +351,7 @@ public final class ProofTest {
         DeductionDesk desk = Desks.proving("F");
         entered("promise 24: any formula", desk, desk.fromFalsum(0, Desks.make(desk, "Kab")), "Kab", 'x');
         entered("promise 24: falsum", desk, desk.fromFalsum(0, 0), "F", 'x');
-        Supplier<DeductionDesk> lines = () -> closed(Desks.proving("F", "NF"), "F");
+        Supplier<DeductionDesk> lines = () -> Desks.closed(Desks.proving("F", "NF"), "F");
         refusesNumbers("promise 24: no line", lines, 3, (x, n) -> x.fromFalsum(n, 0));
         refusesNumbers("promise 24: no formula", lines, 2, (x, n) -> x.fromFalsum(0, n));
         refusesNumbers("promise 24: no formula, first", lines, 2, (x, n) -> x.fromFalsum(2, n));
@@ -381,7 +366,7 @@ public final class ProofTest {
     private static void testDoubleNegation() {
         DeductionDesk desk = Desks.proving("NNNKab");
         entered("promise 25: the formula negated twice", desk, desk.doubleNegation(0), "NKab", 'd');
-        Supplier<DeductionDesk> lines = () -> closed(Desks.proving("NNa", "Na", "a", "NKNab", "F", "KNNab"), "NNa");
+        Supplier<DeductionDesk> lines = () -> Desks.closed(Desks.proving("NNa", "Na", "a", "NKNab", "F", "KNNab"), "NNa");
         refusesNumbers("promise 25: no line", lines, 7, (x, n) -> x.doubleNegation(n));
         CHECK.refuses("promise 25: not cited", NO_SUCH, lines, x -> x.doubleNegation(6));
         for (int line = 1; line < 6; line++) {
@@ -408,8 +393,8 @@ public final class ProofTest {
         entered("promise 26: no box is open", desk, desk.premise(1), "a", 'P');
         CHECK.same("promise 26: once more", desk.newProof(), 1);
         CHECK.same("promise 26: an empty proof", desk.newProof(), 0);
-        CHECK.same("promise 26: boxes begin anew", box(Desks.proving("F"), "a", "b").boxes(), 1);
-        DeductionDesk again = box(box(Desks.proving("F"), "a", "b"), "b", "c");
+        CHECK.same("promise 26: boxes begin anew", Desks.box(Desks.proving("F"), "a", "b").boxes(), 1);
+        DeductionDesk again = Desks.box(Desks.box(Desks.proving("F"), "a", "b"), "b", "c");
         again.newProof();
         again.assume(0);
         CHECK.same("promise 26: a new box has its own result", again.resultOf(0), 0);

@@ -30,34 +30,12 @@ public final class QuestionTest {
         }
     }
 
-    /**
-     * Lines 0 to 7: a premise, box 0 with box 1 and box 2 in it, a line between these and one behind, and box 3,
-     * which is open as well as box 4 in it; box 0 to 2 are closed.
-     */
-    private static DeductionDesk nested() {
-        DeductionDesk desk = Desks.proving("a");
-        for (String each : new String[] {"b", "c", "d", "e", "F"}) {
-            Desks.make(desk, each);
-        }
-        desk.assume(1);
-        desk.assume(2);
-        desk.closeBox();
-        desk.repeat(0);
-        desk.assume(3);
-        desk.closeBox();
-        desk.closeBox();
-        desk.assume(4);
-        desk.repeat(0);
-        desk.assume(5);
-        return desk;
-    }
-
     private static void testCounts() {
         DeductionDesk desk = new DeductionDesk();
         CHECK.same("promise 31: none", desk.lines(), 0);
         CHECK.same("promise 36: none", desk.boxes(), 0);
-        CHECK.same("promise 31: lines", nested().lines(), 8);
-        CHECK.same("promise 36: boxes, open and closed", nested().boxes(), 5);
+        CHECK.same("promise 31: lines", Desks.nested().lines(), 8);
+        CHECK.same("promise 36: boxes, open and closed", Desks.nested().boxes(), 5);
         CHECK.same("promise 31: 60 lines", Desks.fillLines(Desks.proving("a"), 0).lines(), 60);
         desk.letter(0);
         for (int i = 0; i < 60; i++) {
@@ -71,23 +49,23 @@ public final class QuestionTest {
     }
 
     private static void testFormulasAndRules() {
-        DeductionDesk desk = nested();
+        DeductionDesk desk = Desks.nested();
         int[] formulas = {0, 1, 2, 0, 3, 4, 0, 5};
         String rules = "PHHRHHRH";
         for (int line = 0; line < 8; line++) {
             CHECK.same("promise 32: formula of line " + line, desk.formulaOf(line), formulas[line]);
             CHECK.same("promise 33: rule of line " + line, desk.ruleOf(line), rules.charAt(line));
         }
-        refusesNumbers("promise 32: line", QuestionTest::nested, 8, (x, n) -> x.formulaOf(n));
-        refusesNumbers("promise 33: line", QuestionTest::nested, 8, (x, n) -> x.ruleOf(n));
+        refusesNumbers("promise 32: line", Desks::nested, 8, (x, n) -> x.formulaOf(n));
+        refusesNumbers("promise 33: line", Desks::nested, 8, (x, n) -> x.ruleOf(n));
         refusesNumbers("promise 32: empty proof, line", DeductionDesk::new, 0, (x, n) -> x.formulaOf(n));
         refusesNumbers("promise 33: empty proof, line", DeductionDesk::new, 0, (x, n) -> x.ruleOf(n));
-        DeductionDesk again = nested();
+        DeductionDesk again = Desks.nested();
         again.newProof();
         again.premise(5);
         CHECK.same("promise 32: in a new proof", again.formulaOf(0), 5);
         refusesNumbers("promise 32: line of the proof before", () -> {
-            DeductionDesk x = nested();
+            DeductionDesk x = Desks.nested();
             x.newProof();
             x.premise(5);
             return x;
@@ -96,7 +74,7 @@ public final class QuestionTest {
 
     private static void testDepths() {
         int[] depths = {0, 1, 2, 1, 2, 1, 1, 2};
-        DeductionDesk desk = nested();
+        DeductionDesk desk = Desks.nested();
         for (int line = 0; line < 8; line++) {
             CHECK.same("promise 34: depth of line " + line, desk.depthOf(line), depths[line]);
         }
@@ -104,12 +82,12 @@ public final class QuestionTest {
         desk.closeBox();
         CHECK.same("promise 34: closed boxes count", desk.depthOf(7), 2);
         CHECK.same("promise 34: behind all boxes", desk.depthOf(desk.repeat(0)), 0);
-        refusesNumbers("promise 34: line", QuestionTest::nested, 8, (x, n) -> x.depthOf(n));
+        refusesNumbers("promise 34: line", Desks::nested, 8, (x, n) -> x.depthOf(n));
     }
 
     private static void testCanCite() {
         String due = "ynnnnyyy";
-        DeductionDesk desk = nested();
+        DeductionDesk desk = Desks.nested();
         for (int line = 0; line < 8; line++) {
             CHECK.same("promise 35: line " + line, desk.canCite(line), due.charAt(line) == 'y');
         }
@@ -120,12 +98,12 @@ public final class QuestionTest {
         CHECK.same("promise 35: its box is closed, too", desk.canCite(6), false);
         CHECK.same("promise 35: an assumption of a closed box", desk.canCite(5), false);
         CHECK.same("promise 35: no box", desk.canCite(0), true);
-        refusesNumbers("promise 35: line", QuestionTest::nested, 8, (x, n) -> x.canCite(n));
+        refusesNumbers("promise 35: line", Desks::nested, 8, (x, n) -> x.canCite(n));
     }
 
     private static void testCanCiteBox() {
         String due = "ynnnn";
-        DeductionDesk desk = nested();
+        DeductionDesk desk = Desks.nested();
         for (int box = 0; box < 5; box++) {
             CHECK.same("promise 37: box " + box, desk.canCiteBox(box), due.charAt(box) == 'y');
         }
@@ -134,13 +112,13 @@ public final class QuestionTest {
         desk.closeBox();
         CHECK.same("promise 37: a closed box in a closed one", desk.canCiteBox(4), false);
         CHECK.same("promise 37: a closed box in none", desk.canCiteBox(3), true);
-        refusesNumbers("promise 37: box", QuestionTest::nested, 5, (x, n) -> x.canCiteBox(n));
+        refusesNumbers("promise 37: box", Desks::nested, 5, (x, n) -> x.canCiteBox(n));
         refusesNumbers("promise 37: no boxes, box", () -> Desks.proving("a"), 0, (x, n) -> x.canCiteBox(n));
     }
 
     private static void testResultOf() {
         int[] results = {0, 2, 3, 0, 5};
-        DeductionDesk desk = nested();
+        DeductionDesk desk = Desks.nested();
         for (int box = 0; box < 5; box++) {
             CHECK.same("promise 38: box " + box, desk.resultOf(box), results[box]);
         }
@@ -150,7 +128,7 @@ public final class QuestionTest {
         desk.closeBox();
         desk.closeBox();
         CHECK.same("promise 38: closed", desk.resultOf(4), 4);
-        refusesNumbers("promise 38: box", QuestionTest::nested, 5, (x, n) -> x.resultOf(n));
+        refusesNumbers("promise 38: box", Desks::nested, 5, (x, n) -> x.resultOf(n));
         refusesNumbers("promise 38: no boxes, box", () -> Desks.proving("a"), 0, (x, n) -> x.resultOf(n));
     }
 
