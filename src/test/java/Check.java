@@ -9,6 +9,7 @@ final class Check {
     private final String name;
     private int right = 0;
     private int wrong = 0;
+    private String context = "";
 
     Check(String name) {
         this.name = name;
@@ -72,11 +73,73 @@ final class Check {
     }
 
     /** In the workshop, the call has to be done as the 60th line, and to be refused as the 61st. */
-    void sixty(String what, Consumer<DeductionDesk> call) {
+    void sixty(Consumer<DeductionDesk> call) {
         DeductionDesk desk = Desks.fillLinesTo(Desks.workshop(), 0, 59);
-        same(what + " as the 60th line", outcomeOf(desk, call), '.');
-        same(what + ", lines", desk.lines(), 60);
-        outcome(what + " as the 61st line", 'S', () -> Desks.fillLines(Desks.workshop(), 0), call);
+        same("the 60th line", outcomeOf(desk, call), '.');
+        same("60 lines", desk.lines(), 60);
+        outcome("the 61st line", 'S', () -> Desks.fillLines(Desks.workshop(), 0), call);
+    }
+
+    /** The call has to return the number of the line that it enters: 13 in the workshop, and 59 as the last one. */
+    void newLine(Function<DeductionDesk, Integer> call) {
+        same("the line in the workshop", call.apply(Desks.workshop()), 13);
+        same("the last line", call.apply(Desks.fillLinesTo(Desks.workshop(), 0, 59)), 59);
+    }
+
+    /** The call has to enter a line with this formula, and to return its number. */
+    void enters(String due, Supplier<DeductionDesk> prepare, Function<DeductionDesk, Integer> call) {
+        DeductionDesk desk = prepare.get();
+        int lines = desk.lines();
+        same("the number of the line with " + due, call.apply(desk), lines);
+        same("the formula", Desks.shown(desk, lines), due);
+        same("lines", desk.lines(), lines + 1);
+    }
+
+    /** Lines 2 to 5 of the nested desk cannot be cited, and lines 6 to 8 only as long as their boxes are open. */
+    void notCited(Supplier<DeductionDesk> nested, String due, BiConsumer<DeductionDesk, Integer> call) {
+        outcomes("a line with some boxes open", nested, -1, due, call);
+        outcomes("a line with all boxes closed", () -> {
+            DeductionDesk x = nested.get();
+            x.closeBox();
+            x.closeBox();
+            return x;
+        }, -1, due.substring(0, 7) + "NNNI", call);
+        String last = due.replace('.', 'S').substring(0, 10);
+        outcomes("a line among 60", () -> Desks.fillLines(nested.get(), 6), -1,
+                last + last.substring(7, 8).repeat(51) + "I", call);
+    }
+
+    /** The call has to be done with just enough room for its new formulas, and where these are known, only. */
+    void room(int due, Supplier<DeductionDesk> prepare, Consumer<DeductionDesk> call) {
+        DeductionDesk desk = Desks.fillWith(prepare.get(), 4, 150 - due);
+        same("formulas before", desk.formulas(), 150 - due);
+        same("just enough room", outcomeOf(desk, call), '.');
+        same("formulas behind", desk.formulas(), 150);
+        outcome("room for one less", 'S', () -> Desks.fillWith(prepare.get(), 4, 151 - due), call);
+        outcome("no room", 'S', () -> Desks.fillWith(prepare.get(), 4, 150), call);
+        outcome("known among 150", '.', () -> {
+            DeductionDesk x = prepare.get();
+            call.accept(x);
+            return Desks.fillWith(x, 4, 150);
+        }, call);
+    }
+
+    /** Both calls have to answer this distance, or to refuse if it is -1. */
+    void distance(String what, Supplier<DeductionDesk> prepare, String goal, int due) {
+        DeductionDesk desk = prepare.get();
+        int formula = Desks.make(desk, goal);
+        if (due >= 0) {
+            same(what + ", the distance of " + goal, desk.distance(formula), due);
+            same(what + ", the same distance of " + goal, desk.distanceByRounds(formula), due);
+        } else {
+            Supplier<DeductionDesk> known = () -> {
+                DeductionDesk x = prepare.get();
+                Desks.make(x, goal);
+                return x;
+            };
+            outcome(what + ", the distance of " + goal, 'N', known, x -> x.distance(formula));
+            outcome(what + ", the same distance of " + goal, 'N', known, x -> x.distanceByRounds(formula));
+        }
     }
 
     static char outcomeOf(DeductionDesk desk, Consumer<DeductionDesk> call) {
@@ -103,6 +166,11 @@ final class Check {
         return right + wrong;
     }
 
+    /** What stands in front of each wrong answer from now on. */
+    void about(String context) {
+        this.context = context;
+    }
+
     void wrong(String what) {
         count(false, what);
     }
@@ -119,7 +187,7 @@ final class Check {
             right++;
         } else {
             wrong++;
-            System.out.println(name + ": " + what);
+            System.out.println(name + ": " + context + what);
         }
     }
 }

@@ -2,6 +2,7 @@ import java.util.ArrayList;
 import java.util.List;
 import java.util.function.Consumer;
 import java.util.function.Function;
+import java.util.function.Supplier;
 
 /** What the tests do with desks again and again. */
 final class Desks {
@@ -145,6 +146,36 @@ final class Desks {
         desk.assume(4);
         desk.repeat(0);
         desk.assume(5);
+        return desk;
+    }
+
+    /** The premise is line 0; the other lines have all the same formula, and lie in boxes as on the nested desk. */
+    static Supplier<DeductionDesk> nested(String premise, String formula) {
+        return () -> enterNested(new DeductionDesk(), premise, formula);
+    }
+
+    static DeductionDesk enterNested(DeductionDesk desk, String premise, String formula) {
+        desk.premise(make(desk, premise));
+        int number = make(desk, formula);
+        desk.premise(number);
+        desk.assume(number);
+        desk.assume(number);
+        desk.closeBox();
+        desk.repeat(1);
+        desk.assume(number);
+        desk.closeBox();
+        desk.closeBox();
+        desk.assume(number);
+        desk.repeat(1);
+        desk.assume(number);
+        return desk;
+    }
+
+    /** A desk whose proof has one line, a, and had more lines and boxes before. */
+    static DeductionDesk begunAnew() {
+        DeductionDesk desk = nested();
+        desk.newProof();
+        desk.premise(0);
         return desk;
     }
 

@@ -44,9 +44,11 @@ final class Edges {
         return sections;
     }
 
-    /** A line can begin with a call's signature, and a paragraph of the terms with its title. */
+    /** A line can begin with a call's signature, or else with the title of a paragraph of the terms. */
     private static List<String> sentencesOf(String line) {
-        String text = line.replaceFirst("^`[^`]*`: ", "").replaceFirst("^[A-Z][a-z]+( [a-z]+)*\\. (?=[A-Z])", "");
+        String text = line.startsWith("`")
+                ? line.replaceFirst("^`[^`]*`: ", "")
+                : line.replaceFirst("^[A-Z][a-z]+( [a-z]+)*\\. (?=[A-Z])", "");
         return new ArrayList<>(List.of(text.split("(?<=\\.) ")));
     }
 
@@ -68,7 +70,9 @@ final class Edges {
     void sentence(String sentence, Runnable test) {
         name(sentence);
         int before = check.answers();
+        check.about(section + ": " + sentence + ": ");
         test.run();
+        check.about("");
         if (check.answers() == before) {
             check.wrong(section + " has no test of: " + sentence);
         }

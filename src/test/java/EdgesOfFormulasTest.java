@@ -275,7 +275,7 @@ public final class EdgesOfFormulasTest {
             }
         });
         EDGES.noEdge("- `formula`: the number of the formula");
-        EDGES.sentence("Returns the number of the formula to which it was bound before, or -1 if it was not bound.", () -> {
+        EDGES.sentence("Returns the number of the formula to which it was bound before, or -1 if ..", () -> {
             DeductionDesk desk = Desks.with("a", "b");
             CHECK.same("not bound, though another letter is", desk.bind(1, 0) + desk.bind(0, 0), -2);
             CHECK.same("bound to formula 0", desk.bind(0, 1), 0);

@@ -57,68 +57,8 @@ public final class EdgesOfProofTest {
         return () -> Desks.fillWith(Desks.proving(premises), 4, 150);
     }
 
-    /** The premise is line 0; the other lines have all the same formula, and lie in boxes as on the nested desk. */
-    private static Supplier<DeductionDesk> nested(String premise, String formula) {
-        return () -> {
-            DeductionDesk desk = Desks.proving(premise, formula);
-            int number = Desks.make(desk, formula);
-            desk.assume(number);
-            desk.assume(number);
-            desk.closeBox();
-            desk.repeat(1);
-            desk.assume(number);
-            desk.closeBox();
-            desk.closeBox();
-            desk.assume(number);
-            desk.repeat(1);
-            desk.assume(number);
-            return desk;
-        };
-    }
-
     private static Supplier<DeductionDesk> sixty(Supplier<DeductionDesk> prepare) {
         return () -> Desks.fillLines(prepare.get(), 0);
-    }
-
-    /** The call has to return the number of the line that it enters: 13 in the workshop, and 59 as the last one. */
-    private static void newLine(Function<DeductionDesk, Integer> call) {
-        CHECK.same("the line in the workshop", call.apply(Desks.workshop()), 13);
-        CHECK.same("the last line", call.apply(Desks.fillLinesTo(Desks.workshop(), 0, 59)), 59);
-    }
-
-    private static void noRoom(Consumer<DeductionDesk> call) {
-        CHECK.sixty("a call", call);
-    }
-
-    /** What a call enters from premises in a new proof; its line is the last one. */
-    private static void enters(String due, Supplier<DeductionDesk> prepare, Function<DeductionDesk, Integer> call) {
-        DeductionDesk desk = prepare.get();
-        int lines = desk.lines();
-        CHECK.same("the number of the line with " + due, call.apply(desk), lines);
-        CHECK.same("the formula", Desks.shown(desk, lines), due);
-        CHECK.same("lines", desk.lines(), lines + 1);
-    }
-
-    /** Lines 2 to 5 of the nested desk cannot be cited, and lines 6 to 8 only as long as their boxes are open. */
-    private static void notCited(Supplier<DeductionDesk> nested, String due, BiConsumer<DeductionDesk, Integer> call) {
-        CHECK.outcomes("a line with some boxes open", nested, -1, due, call);
-        CHECK.outcomes("a line with all boxes closed", () -> {
-            DeductionDesk x = nested.get();
-            x.closeBox();
-            x.closeBox();
-            return x;
-        }, -1, due.substring(0, 7) + "NNNI", call);
-        String last = due.replace('.', 'S').substring(0, 10);
-        CHECK.outcomes("a line among 60", () -> Desks.fillLines(nested.get(), 6), -1,
-                last + last.substring(7, 8).repeat(51) + "I", call);
-    }
-
-    /** A desk whose proof has one line, a, and had more lines and boxes before. */
-    private static DeductionDesk begunAnew() {
-        DeductionDesk desk = Desks.nested();
-        desk.newProof();
-        desk.premise(0);
-        return desk;
     }
 
     // ---- premises, assumptions, boxes
@@ -126,16 +66,16 @@ public final class EdgesOfProofTest {
     private static void testPremise() {
         EDGES.section("Promise 12: premise");
         EDGES.sentence("Enters a premise, outside of all boxes.", () -> {
-            enters("a", () -> Desks.with("a"), x -> x.premise(0));
-            enters(THIRTY, () -> Desks.with(THIRTY), x -> x.premise(29));
-            enters("a", proving("a"), x -> x.premise(0));
+            CHECK.enters("a", () -> Desks.with("a"), x -> x.premise(0));
+            CHECK.enters(THIRTY, () -> Desks.with(THIRTY), x -> x.premise(29));
+            CHECK.enters("a", proving("a"), x -> x.premise(0));
             DeductionDesk desk = Desks.workshop();
             CHECK.same("the depth behind closed boxes", desk.depthOf(desk.premise(0)), 0);
         });
         EDGES.noEdge("- `formula`: the number of its formula");
         EDGES.sentence("Returns the number of the line.", () -> {
             CHECK.same("the first line", Desks.with("a").premise(0), 0);
-            newLine(x -> x.premise(0));
+            CHECK.newLine(x -> x.premise(0));
         });
         EDGES.sentence(NO_FORMULA, () -> {
             CHECK.outcomes("among none", DeductionDesk::new, -1, "II", (x, n) -> x.premise(n));
@@ -166,14 +106,14 @@ public final class EdgesOfProofTest {
                 return x;
             }, x -> x.premise(0));
         });
-        EDGES.sentence(NO_ROOM, () -> noRoom(x -> x.premise(0)));
+        EDGES.sentence(NO_ROOM, () -> CHECK.sixty(x -> x.premise(0)));
     }
 
     private static void testAssume() {
         EDGES.section("Promise 13: assume");
         EDGES.sentence("Enters an assumption, which opens a box.", () -> {
-            enters("a", () -> Desks.with("a"), x -> x.assume(0));
-            enters(THIRTY, () -> Desks.with(THIRTY), x -> x.assume(29));
+            CHECK.enters("a", () -> Desks.with("a"), x -> x.assume(0));
+            CHECK.enters(THIRTY, () -> Desks.with(THIRTY), x -> x.assume(29));
             DeductionDesk desk = Desks.with("a");
             for (int boxes = 1; boxes <= 60; boxes++) {
                 int line = desk.assume(0);
@@ -189,7 +129,7 @@ public final class EdgesOfProofTest {
         EDGES.noEdge("- `formula`: the number of its formula");
         EDGES.sentence("Returns the number of the line.", () -> {
             CHECK.same("the first line", Desks.with("a").assume(0), 0);
-            newLine(x -> x.assume(0));
+            CHECK.newLine(x -> x.assume(0));
         });
         EDGES.sentence(NO_FORMULA, () -> {
             CHECK.outcomes("among none", DeductionDesk::new, -1, "II", (x, n) -> x.assume(n));
@@ -197,7 +137,7 @@ public final class EdgesOfProofTest {
             CHECK.outcomes("among 150", full("a"), -1, "I" + ".".repeat(150) + "I", (x, n) -> x.assume(n));
             CHECK.outcomes("in a box of 60 lines", sixty(Desks::nested), -1, "ISSSSSSI", (x, n) -> x.assume(n));
         });
-        EDGES.sentence(NO_ROOM, () -> noRoom(x -> x.assume(0)));
+        EDGES.sentence(NO_ROOM, () -> CHECK.sixty(x -> x.assume(0)));
     }
 
     private static void testCloseBox() {
@@ -256,21 +196,21 @@ public final class EdgesOfProofTest {
     private static void testRepeat() {
         EDGES.section("Promise 15: repeat");
         EDGES.sentence("Enters the formula of a line once more.", () -> {
-            enters("a", proving("a"), x -> x.repeat(0));
-            enters(THIRTY, full(THIRTY), x -> x.repeat(0));
-            enters("b", nested("a", "b"), x -> x.repeat(8));
+            CHECK.enters("a", proving("a"), x -> x.repeat(0));
+            CHECK.enters(THIRTY, full(THIRTY), x -> x.repeat(0));
+            CHECK.enters("b", Desks.nested("a", "b"), x -> x.repeat(8));
         });
         EDGES.noEdge(LINE);
-        EDGES.sentence(NEW_LINE, () -> newLine(x -> x.repeat(0)));
+        EDGES.sentence(NEW_LINE, () -> CHECK.newLine(x -> x.repeat(0)));
         EDGES.sentence(NO_LINE, () -> noLine("I.I", "I..I", (x, n) -> x.repeat(n)));
-        EDGES.sentence(NOT_CITED, () -> notCited(nested("a", "b"), "I..NNNN...I", (x, n) -> x.repeat(n)));
-        EDGES.sentence(NO_ROOM, () -> noRoom(x -> x.repeat(0)));
+        EDGES.sentence(NOT_CITED, () -> CHECK.notCited(Desks.nested("a", "b"), "I..NNNN...I", (x, n) -> x.repeat(n)));
+        EDGES.sentence(NO_ROOM, () -> CHECK.sixty(x -> x.repeat(0)));
     }
 
     /** The outcomes with a proof of one line, a, and with one of two lines, Kab and NNa, beside that without lines. */
     private static void noLine(String one, String two, BiConsumer<DeductionDesk, Integer> call) {
         CHECK.outcomes("no lines", () -> Desks.with("a"), -1, "II", call);
-        CHECK.outcomes("one line and those of the proof before", EdgesOfProofTest::begunAnew, -1, one, call);
+        CHECK.outcomes("one line and those of the proof before", Desks::begunAnew, -1, one, call);
         CHECK.outcomes("two lines", proving("Kab", "NNa"), -1, two, call);
         CHECK.outcomes("60 lines", sixty(proving("Kab")), -1,
                 "I" + two.substring(1, 2).replace('.', 'S').repeat(60) + "I", call);
@@ -280,68 +220,57 @@ public final class EdgesOfProofTest {
         EDGES.section("Promise 16: makeConjunction");
         EDGES.noEdge("Enters the conjunction of the formulas of two lines.");
         EDGES.sentence("- `line`: the number of the line with the left formula", () -> {
-            enters("KaNb", proving("a", "Nb"), x -> x.makeConjunction(0, 1));
-            enters("Kaa", proving("a", "Nb"), x -> x.makeConjunction(0, 0));
+            CHECK.enters("KaNb", proving("a", "Nb"), x -> x.makeConjunction(0, 1));
+            CHECK.enters("Kaa", proving("a", "Nb"), x -> x.makeConjunction(0, 0));
         });
         EDGES.sentence("- `other`: the number of the line with the right formula", () -> {
-            enters("KNba", proving("a", "Nb"), x -> x.makeConjunction(1, 0));
-            enters("KNbNb", proving("a", "Nb"), x -> x.makeConjunction(1, 1));
+            CHECK.enters("KNba", proving("a", "Nb"), x -> x.makeConjunction(1, 0));
+            CHECK.enters("KNbNb", proving("a", "Nb"), x -> x.makeConjunction(1, 1));
         });
-        EDGES.sentence(NEW_LINE, () -> newLine(x -> x.makeConjunction(0, 1)));
+        EDGES.sentence(NEW_LINE, () -> CHECK.newLine(x -> x.makeConjunction(0, 1)));
         EDGES.sentence(NO_LINES, () -> {
             noLine("I.I", "I..I", (x, n) -> x.makeConjunction(n, 0));
             noLine("I.I", "I..I", (x, n) -> x.makeConjunction(0, n));
             noLine("I.I", "I..I", (x, n) -> x.makeConjunction(n, n));
-            CHECK.outcomes("and the other one not cited", nested("a", "b"), -1, "INNNNNNNNNI",
+            CHECK.outcomes("and the other one not cited", Desks.nested("a", "b"), -1, "INNNNNNNNNI",
                     (x, n) -> x.makeConjunction(n, 3));
-            CHECK.outcomes("and the first one not cited", nested("a", "b"), -1, "INNNNNNNNNI",
+            CHECK.outcomes("and the first one not cited", Desks.nested("a", "b"), -1, "INNNNNNNNNI",
                     (x, n) -> x.makeConjunction(3, n));
         });
         EDGES.sentence(ONE_NOT_CITED, () -> {
-            notCited(nested("a", "b"), "I..NNNN...I", (x, n) -> x.makeConjunction(n, 0));
-            notCited(nested("a", "b"), "I..NNNN...I", (x, n) -> x.makeConjunction(0, n));
-            notCited(nested("a", "b"), "I..NNNN...I", (x, n) -> x.makeConjunction(n, n));
+            CHECK.notCited(Desks.nested("a", "b"), "I..NNNN...I", (x, n) -> x.makeConjunction(n, 0));
+            CHECK.notCited(Desks.nested("a", "b"), "I..NNNN...I", (x, n) -> x.makeConjunction(0, n));
+            CHECK.notCited(Desks.nested("a", "b"), "I..NNNN...I", (x, n) -> x.makeConjunction(n, n));
         });
-        EDGES.sentence("Throws `IllegalStateException` if there are 60 lines, or the conjunction cannot be made", () -> {
-            noRoom(x -> x.makeConjunction(4, 4));
-            noRoom(x -> x.makeConjunction(4, 2));
+        EDGES.sentence("Throws `IllegalStateException` if there are 60 lines, or the conjunction cannot ..", () -> {
+            CHECK.sixty(x -> x.makeConjunction(4, 4));
+            CHECK.sixty(x -> x.makeConjunction(4, 2));
             Supplier<DeductionDesk> large = proving(FOURTEEN, FIFTEEN);
             CHECK.outcome("size 30", '.', large, x -> x.makeConjunction(0, 1));
             CHECK.outcome("size 31", 'S', large, x -> x.makeConjunction(1, 1));
-            room(1, proving("a", "b"), x -> x.makeConjunction(0, 1));
+            CHECK.room(1, proving("a", "b"), x -> x.makeConjunction(0, 1));
             CHECK.outcome("60 lines, and the conjunction is not made", 'S', sixty(proving("a")),
                     x -> x.makeConjunction(0, 0));
         });
     }
 
-    /** The call has to be done with room for its new formulas, and where these are known, but not without room. */
-    private static void room(int due, Supplier<DeductionDesk> prepare, Consumer<DeductionDesk> call) {
-        CHECK.outcome("the 150th formula", '.', () -> Desks.fillWith(prepare.get(), 4, 150 - due), call);
-        CHECK.outcome("the 151st formula", 'S', () -> Desks.fillWith(prepare.get(), 4, 151 - due), call);
-        CHECK.outcome("known among 150", '.', () -> {
-            DeductionDesk x = prepare.get();
-            call.accept(x);
-            return Desks.fillWith(x, 4, 150);
-        }, call);
-    }
-
     private static void testUseConjunction() {
         EDGES.section("Promise 17: useConjunction");
         EDGES.sentence("Enters one of the two formulas of a conjunction.", () -> {
-            enters("a", full("Kaa"), x -> x.useConjunction(0, false));
-            enters("a", full("Kaa"), x -> x.useConjunction(0, true));
-            enters(FIFTEEN, full("K" + FOURTEEN + FIFTEEN), x -> x.useConjunction(0, true));
+            CHECK.enters("a", full("Kaa"), x -> x.useConjunction(0, false));
+            CHECK.enters("a", full("Kaa"), x -> x.useConjunction(0, true));
+            CHECK.enters(FIFTEEN, full("K" + FOURTEEN + FIFTEEN), x -> x.useConjunction(0, true));
         });
         EDGES.noEdge("- `line`: the number of the line with the conjunction");
         EDGES.sentence("- `isRight`: whether it is the right formula; otherwise, it is the left one", () -> {
-            enters("Kab", proving("KKabc"), x -> x.useConjunction(0, false));
-            enters("c", proving("KKabc"), x -> x.useConjunction(0, true));
+            CHECK.enters("Kab", proving("KKabc"), x -> x.useConjunction(0, false));
+            CHECK.enters("c", proving("KKabc"), x -> x.useConjunction(0, true));
         });
-        EDGES.sentence(NEW_LINE, () -> newLine(x -> x.useConjunction(2, true)));
+        EDGES.sentence(NEW_LINE, () -> CHECK.newLine(x -> x.useConjunction(2, true)));
         EDGES.sentence(NO_LINE, () -> noLine("IUI", "I.UI", (x, n) -> x.useConjunction(n, true)));
         EDGES.sentence(NOT_CITED, () -> {
-            notCited(nested("a", "Kab"), "IU.NNNN...I", (x, n) -> x.useConjunction(n, false));
-            notCited(nested("Kab", "a"), "I.UNNNNUUUI", (x, n) -> x.useConjunction(n, true));
+            CHECK.notCited(Desks.nested("a", "Kab"), "IU.NNNN...I", (x, n) -> x.useConjunction(n, false));
+            CHECK.notCited(Desks.nested("Kab", "a"), "I.UNNNNUUUI", (x, n) -> x.useConjunction(n, true));
         });
         EDGES.sentence("Throws `UnsupportedOperationException` if its formula is not a conjunction", () -> {
             Supplier<DeductionDesk> kinds = proving("a", "F", "NKab", "Aab", "Cab", "Kab", "KFF");
@@ -351,8 +280,8 @@ public final class EdgesOfProofTest {
                     "IUUUUU" + "S".repeat(55) + "I", (x, n) -> x.useConjunction(n, true));
         });
         EDGES.sentence(NO_ROOM, () -> {
-            noRoom(x -> x.useConjunction(2, false));
-            noRoom(x -> x.useConjunction(2, true));
+            CHECK.sixty(x -> x.useConjunction(2, false));
+            CHECK.sixty(x -> x.useConjunction(2, true));
         });
     }
 
@@ -360,69 +289,69 @@ public final class EdgesOfProofTest {
         EDGES.section("Promise 18: makeDisjunction");
         EDGES.noEdge("Enters a disjunction of the formula of a line and another formula.", LINE,
                 "- `formula`: the number of the other formula");
-        EDGES.sentence("- `isRight`: whether the formula of the line is the right formula of the disjunction; ..", () -> {
+        EDGES.sentence("- `isRight`: whether the formula of the line is the right formula of ..", () -> {
             Supplier<DeductionDesk> desk = () -> {
                 DeductionDesk x = Desks.with("b");
                 x.premise(Desks.make(x, "Na"));
                 return x;
             };
-            enters("ANab", desk, x -> x.makeDisjunction(0, 0, false));
-            enters("AbNa", desk, x -> x.makeDisjunction(0, 0, true));
-            enters("ANaNa", desk, x -> x.makeDisjunction(0, 2, false));
-            enters("ANaNa", desk, x -> x.makeDisjunction(0, 2, true));
+            CHECK.enters("ANab", desk, x -> x.makeDisjunction(0, 0, false));
+            CHECK.enters("AbNa", desk, x -> x.makeDisjunction(0, 0, true));
+            CHECK.enters("ANaNa", desk, x -> x.makeDisjunction(0, 2, false));
+            CHECK.enters("ANaNa", desk, x -> x.makeDisjunction(0, 2, true));
         });
-        EDGES.sentence(NEW_LINE, () -> newLine(x -> x.makeDisjunction(4, 2, false)));
+        EDGES.sentence(NEW_LINE, () -> CHECK.newLine(x -> x.makeDisjunction(4, 2, false)));
         EDGES.sentence(NO_LINE_OR_FORMULA, () -> {
             noLine("I.I", "I..I", (x, n) -> x.makeDisjunction(n, 0, false));
             noLine("I.I", "I..I", (x, n) -> x.makeDisjunction(n, 0, true));
             CHECK.outcomes("a formula", proving("a", "b"), -1, "I..I", (x, n) -> x.makeDisjunction(0, n, true));
             CHECK.outcomes("a formula among 150", full("a"), -1, "I" + "S".repeat(150) + "I",
                     (x, n) -> x.makeDisjunction(0, n, false));
-            CHECK.outcomes("a formula, the line not cited", nested("a", "b"), -1, "INNI",
+            CHECK.outcomes("a formula, the line not cited", Desks.nested("a", "b"), -1, "INNI",
                     (x, n) -> x.makeDisjunction(3, n, true));
-            CHECK.outcomes("no formula and no line", nested("a", "b"), -1, "IIII",
+            CHECK.outcomes("no formula and no line", Desks.nested("a", "b"), -1, "IIII",
                     (x, n) -> x.makeDisjunction(9, n, true));
         });
         EDGES.sentence(LINE_NOT_CITED, () -> {
-            notCited(nested("a", "b"), "I..NNNN...I", (x, n) -> x.makeDisjunction(n, 0, false));
-            notCited(nested("a", "b"), "I..NNNN...I", (x, n) -> x.makeDisjunction(n, 1, true));
+            CHECK.notCited(Desks.nested("a", "b"), "I..NNNN...I", (x, n) -> x.makeDisjunction(n, 0, false));
+            CHECK.notCited(Desks.nested("a", "b"), "I..NNNN...I", (x, n) -> x.makeDisjunction(n, 1, true));
         });
-        EDGES.sentence("Throws `IllegalStateException` if there are 60 lines, or the disjunction cannot be made", () -> {
-            noRoom(x -> x.makeDisjunction(4, 2, false));
-            noRoom(x -> x.makeDisjunction(4, 4, true));
+        EDGES.sentence("Throws `IllegalStateException` if there are 60 lines, or the disjunction cannot ..", () -> {
+            CHECK.sixty(x -> x.makeDisjunction(4, 2, false));
+            CHECK.sixty(x -> x.makeDisjunction(4, 4, true));
             // Formula 13 has size 14, and formula 14 has size 15.
             CHECK.outcome("size 30", '.', proving(FOURTEEN, FIFTEEN), x -> x.makeDisjunction(0, 14, false));
             CHECK.outcome("size 30", '.', proving(FOURTEEN, FIFTEEN), x -> x.makeDisjunction(1, 13, true));
             CHECK.outcome("size 31", 'S', proving(FOURTEEN, FIFTEEN), x -> x.makeDisjunction(1, 14, false));
             CHECK.outcome("size 31", 'S', proving(FOURTEEN, FIFTEEN), x -> x.makeDisjunction(1, 14, true));
-            room(1, proving("a", "b"), x -> x.makeDisjunction(0, 1, false));
-            room(1, proving("a", "b"), x -> x.makeDisjunction(0, 1, true));
+            CHECK.room(1, proving("a", "b"), x -> x.makeDisjunction(0, 1, false));
+            CHECK.room(1, proving("a", "b"), x -> x.makeDisjunction(0, 1, true));
         });
     }
 
     private static void testUseDisjunction() {
         EDGES.section("Promise 19: useDisjunction");
         EDGES.sentence("Enters the result of two boxes, of which one begins with the left formula ..", () -> {
-            enters("c", Desks::workshop, x -> x.useDisjunction(1, 0, 1));
-            enters("a", () -> Desks.closed(Desks.proving("Aaa"), "a"), x -> x.useDisjunction(0, 0, 0));
-            enters("F", () -> Desks.box(Desks.box(Desks.proving("F", "AaF"), "a", "F"), "F", "F"),
+            CHECK.enters("c", Desks::workshop, x -> x.useDisjunction(1, 0, 1));
+            CHECK.enters("a", () -> Desks.closed(Desks.proving("Aaa"), "a"), x -> x.useDisjunction(0, 0, 0));
+            CHECK.enters("F", () -> Desks.box(Desks.box(Desks.proving("F", "AaF"), "a", "F"), "F", "F"),
                     x -> x.useDisjunction(1, 0, 1));
         });
         EDGES.noEdge("- `line`: the number of the line with the disjunction",
                 "- `box`: the number of the box whose first line has the left formula");
-        EDGES.sentence("- `other`: the number of the box whose first line has the right formula, which can be ..", () -> {
+        EDGES.sentence("- `other`: the number of the box whose first line has the right formula, ..", () -> {
             Supplier<DeductionDesk> same = () -> Desks.box(Desks.box(Desks.proving("F", "Abb"), "b", "c"), "b", "c");
             for (int box = 0; box < 2; box++) {
                 for (int other = 0; other < 2; other++) {
                     int left = box;
                     int right = other;
-                    enters("c", same, x -> x.useDisjunction(1, left, right));
+                    CHECK.enters("c", same, x -> x.useDisjunction(1, left, right));
                 }
             }
             CHECK.outcome("the same box for two formulas", 'U', Desks::workshop, x -> x.useDisjunction(1, 0, 0));
             CHECK.outcome("the same box for two formulas", 'U', Desks::workshop, x -> x.useDisjunction(1, 1, 1));
         });
-        EDGES.sentence(NEW_LINE, () -> newLine(x -> x.useDisjunction(1, 0, 1)));
+        EDGES.sentence(NEW_LINE, () -> CHECK.newLine(x -> x.useDisjunction(1, 0, 1)));
         EDGES.sentence("Throws `IndexOutOfBoundsException` if there is no such line or no such box, for either", () -> {
             CHECK.outcomes("no lines", () -> Desks.with("a"), -1, "II", (x, n) -> x.useDisjunction(n, 0, 0));
             CHECK.outcomes("no boxes", proving("Aaa"), -1, "II", (x, n) -> x.useDisjunction(0, n, n));
@@ -433,17 +362,17 @@ public final class EdgesOfProofTest {
                     (x, n) -> x.useDisjunction(7, n, 1));
             CHECK.outcomes("a line that is not cited, and the other box", Desks::workshop, -1, "INNNI",
                     (x, n) -> x.useDisjunction(7, 0, n));
-            CHECK.outcomes("boxes of the proof before", EdgesOfProofTest::begunAnew, -1, "II",
+            CHECK.outcomes("boxes of the proof before", Desks::begunAnew, -1, "II",
                     (x, n) -> x.useDisjunction(0, n, n));
         });
         EDGES.sentence("Throws `NoSuchElementException` if the line or one of the boxes cannot be cited", () -> {
-            Supplier<DeductionDesk> boxes = nested("Aaa", "a");
+            Supplier<DeductionDesk> boxes = Desks.nested("Aaa", "a");
             CHECK.outcomes("a box", boxes, -1, "I.NNNNI", (x, n) -> x.useDisjunction(0, n, 0));
             CHECK.outcomes("the other box", boxes, -1, "I.NNNNI", (x, n) -> x.useDisjunction(0, 0, n));
             CHECK.outcomes("both boxes", boxes, -1, "I.NNNNI", (x, n) -> x.useDisjunction(0, n, n));
             CHECK.outcomes("a box, among 60 lines", sixty(boxes), -1, "ISNNNNI", (x, n) -> x.useDisjunction(0, n, 0));
             CHECK.outcomes("a box, and no disjunction", boxes, -1, "IUNNNNI", (x, n) -> x.useDisjunction(1, n, 0));
-            notCited(nested("a", "Aaa"), "IUUNNNNUUUI", (x, n) -> x.useDisjunction(n, 0, 0));
+            CHECK.notCited(Desks.nested("a", "Aaa"), "IUUNNNNUUUI", (x, n) -> x.useDisjunction(n, 0, 0));
             CHECK.outcome("a disjunction of a closed box", 'N', () -> Desks.closed(Desks.closed(new DeductionDesk(),
                     "Aaa"), "a"), x -> x.useDisjunction(0, 1, 1));
             CHECK.outcome("a disjunction of an open box", '.', () -> {
@@ -452,7 +381,7 @@ public final class EdgesOfProofTest {
                 return Desks.closed(x, "a");
             }, x -> x.useDisjunction(0, 1, 1));
         });
-        EDGES.sentence("Throws `UnsupportedOperationException` if the formula of the line is not a disjunction, ..", () -> {
+        EDGES.sentence("Throws `UnsupportedOperationException` if the formula of the line is not ..", () -> {
             Supplier<DeductionDesk> kinds = () -> Desks.closed(Desks.proving("a", "F", "Na", "Kaa", "Caa", "NAaa",
                     "Aaa", "Aab", "Aba"), "a");
             CHECK.outcomes("each kind", kinds, -1, "IUUUUUU.UUNI", (x, n) -> x.useDisjunction(n, 0, 0));
@@ -463,27 +392,27 @@ public final class EdgesOfProofTest {
             CHECK.outcome("another first line on the right", 'U', Desks::workshop, x -> x.useDisjunction(1, 0, 0));
             CHECK.outcome("other results", 'U', Desks::workshop, x -> x.useDisjunction(1, 2, 1));
         });
-        EDGES.sentence(NO_ROOM, () -> noRoom(x -> x.useDisjunction(1, 0, 1)));
+        EDGES.sentence(NO_ROOM, () -> CHECK.sixty(x -> x.useDisjunction(1, 0, 1)));
     }
 
     private static void testMakeImplication() {
         EDGES.section("Promise 20: makeImplication");
         EDGES.sentence("Enters the implication of the formula of the first line of a box and its result.", () -> {
-            enters("Cac", Desks::workshop, x -> x.makeImplication(0));
-            enters("Caa", () -> Desks.closed(new DeductionDesk(), "a"), x -> x.makeImplication(0));
-            enters("CFF", () -> Desks.closed(new DeductionDesk(), "F"), x -> x.makeImplication(0));
-            enters("Cab", nestedResult(), x -> x.makeImplication(0));
+            CHECK.enters("Cac", Desks::workshop, x -> x.makeImplication(0));
+            CHECK.enters("Caa", () -> Desks.closed(new DeductionDesk(), "a"), x -> x.makeImplication(0));
+            CHECK.enters("CFF", () -> Desks.closed(new DeductionDesk(), "F"), x -> x.makeImplication(0));
+            CHECK.enters("Cab", nestedResult(), x -> x.makeImplication(0));
         });
         EDGES.noEdge(BOX);
-        EDGES.sentence(NEW_LINE, () -> newLine(x -> x.makeImplication(0)));
+        EDGES.sentence(NEW_LINE, () -> CHECK.newLine(x -> x.makeImplication(0)));
         EDGES.sentence(NO_BOX, () -> noBox("I...I", (x, n) -> x.makeImplication(n)));
         EDGES.sentence(NOT_CITED, () -> boxNotCited("a", '.', (x, n) -> x.makeImplication(n)));
-        EDGES.sentence("Throws `IllegalStateException` if there are 60 lines, or the implication cannot be made", () -> {
-            noRoom(x -> x.makeImplication(0));
+        EDGES.sentence("Throws `IllegalStateException` if there are 60 lines, or the implication cannot ..", () -> {
+            CHECK.sixty(x -> x.makeImplication(0));
             Supplier<DeductionDesk> large = () -> Desks.box(Desks.box(Desks.box(Desks.proving("F"), FOURTEEN, FIFTEEN),
                     FIFTEEN, FOURTEEN), FIFTEEN, FIFTEEN);
             CHECK.outcomes("sizes 30, 30 and 31", large, -1, "I..SI", (x, n) -> x.makeImplication(n));
-            room(1, () -> Desks.box(Desks.proving("F"), "a", "b"), x -> x.makeImplication(0));
+            CHECK.room(1, () -> Desks.box(Desks.proving("F"), "a", "b"), x -> x.makeImplication(0));
             CHECK.outcome("60 lines, and the implication is known", 'S', () -> Desks.fillLines(Desks.box(
                     Desks.proving("F", "Cab"), "a", "b"), 0), x -> x.makeImplication(0));
         });
@@ -505,7 +434,7 @@ public final class EdgesOfProofTest {
     private static void noBox(String due, BiConsumer<DeductionDesk, Integer> call) {
         CHECK.outcomes("no lines", DeductionDesk::new, -1, "II", call);
         CHECK.outcomes("no boxes", proving("a", "b"), -1, "II", call);
-        CHECK.outcomes("boxes of the proof before", EdgesOfProofTest::begunAnew, -1, "II", call);
+        CHECK.outcomes("boxes of the proof before", Desks::begunAnew, -1, "II", call);
         CHECK.outcomes("three boxes", Desks::workshop, -1, due, call);
         CHECK.outcomes("three boxes, 60 lines", sixty(Desks::workshop), -1, due.replace('.', 'S'), call);
         CHECK.outcomes("59 boxes", () -> {
@@ -519,7 +448,7 @@ public final class EdgesOfProofTest {
 
     /** Box 0 of the nested desk, in which all lines have this formula, can be cited, and box 1 to 4 cannot. */
     private static void boxNotCited(String formula, char due, BiConsumer<DeductionDesk, Integer> call) {
-        Supplier<DeductionDesk> boxes = nested("b", formula);
+        Supplier<DeductionDesk> boxes = Desks.nested("b", formula);
         CHECK.outcomes("two boxes open", boxes, -1, "I" + due + "NNNNI", call);
         CHECK.outcomes("one box open", () -> {
             DeductionDesk x = boxes.get();
@@ -538,27 +467,27 @@ public final class EdgesOfProofTest {
     private static void testUseImplication() {
         EDGES.section("Promise 21: useImplication");
         EDGES.sentence("Enters the right formula of an implication.", () -> {
-            enters("b", proving("Cab", "a"), x -> x.useImplication(0, 1));
-            enters("a", full("Caa", "a"), x -> x.useImplication(0, 1));
-            enters(FIFTEEN, full("C" + FOURTEEN + FIFTEEN, FOURTEEN), x -> x.useImplication(0, 1));
+            CHECK.enters("b", proving("Cab", "a"), x -> x.useImplication(0, 1));
+            CHECK.enters("a", full("Caa", "a"), x -> x.useImplication(0, 1));
+            CHECK.enters(FIFTEEN, full("C" + FOURTEEN + FIFTEEN, FOURTEEN), x -> x.useImplication(0, 1));
         });
         EDGES.noEdge("- `line`: the number of the line with the implication",
                 "- `other`: the number of a line with its left formula");
-        EDGES.sentence(NEW_LINE, () -> newLine(x -> x.useImplication(3, 4)));
+        EDGES.sentence(NEW_LINE, () -> CHECK.newLine(x -> x.useImplication(3, 4)));
         EDGES.sentence(NO_LINES, () -> {
             noLine("IUI", "IUUI", (x, n) -> x.useImplication(n, 0));
             noLine("IUI", "IUUI", (x, n) -> x.useImplication(0, n));
             CHECK.outcomes("the first one", proving("a", "Cab"), -1, "IU.I", (x, n) -> x.useImplication(n, 0));
             CHECK.outcomes("the other one", proving("Cab", "a"), -1, "IU.I", (x, n) -> x.useImplication(0, n));
-            CHECK.outcomes("and the other one not cited", nested("a", "Cab"), -1, "INNNNNNNNNI",
+            CHECK.outcomes("and the other one not cited", Desks.nested("a", "Cab"), -1, "INNNNNNNNNI",
                     (x, n) -> x.useImplication(n, 3));
-            CHECK.outcomes("and the first one not cited", nested("a", "Cab"), -1, "INNNNNNNNNI",
+            CHECK.outcomes("and the first one not cited", Desks.nested("a", "Cab"), -1, "INNNNNNNNNI",
                     (x, n) -> x.useImplication(3, n));
         });
         EDGES.sentence(ONE_NOT_CITED, () -> {
-            notCited(nested("a", "Cab"), "IU.NNNN...I", (x, n) -> x.useImplication(n, 0));
-            notCited(nested("Cab", "a"), "IU.NNNN...I", (x, n) -> x.useImplication(0, n));
-            notCited(nested("a", "b"), "IUUNNNNUUUI", (x, n) -> x.useImplication(n, n));
+            CHECK.notCited(Desks.nested("a", "Cab"), "IU.NNNN...I", (x, n) -> x.useImplication(n, 0));
+            CHECK.notCited(Desks.nested("Cab", "a"), "IU.NNNN...I", (x, n) -> x.useImplication(0, n));
+            CHECK.notCited(Desks.nested("a", "b"), "IUUNNNNUUUI", (x, n) -> x.useImplication(n, n));
         });
         EDGES.sentence("Throws `UnsupportedOperationException` if the formula of the first line is not an ..", () -> {
             Supplier<DeductionDesk> kinds = proving("a", "F", "Na", "NCaa", "Kab", "Aab", "Cab", "Cba", "CFa", "b");
@@ -569,18 +498,18 @@ public final class EdgesOfProofTest {
             CHECK.outcomes("Cab with each kind, among 60 lines", () -> Desks.fillLines(kinds.get(), 0), -1,
                     "ISUUUUUUUUU" + "S".repeat(50) + "I", (x, n) -> x.useImplication(6, n));
         });
-        EDGES.sentence(NO_ROOM, () -> noRoom(x -> x.useImplication(3, 4)));
+        EDGES.sentence(NO_ROOM, () -> CHECK.sixty(x -> x.useImplication(3, 4)));
     }
 
     private static void testMakeNegation() {
         EDGES.section("Promise 22: makeNegation");
         EDGES.sentence("Enters the negation of the formula of the first line of a box whose result is falsum.", () -> {
-            enters("Na", Desks::workshop, x -> x.makeNegation(2));
-            enters("NF", () -> Desks.closed(new DeductionDesk(), "F"), x -> x.makeNegation(0));
-            enters("NNF", () -> Desks.box(Desks.proving("F"), "NF", "F"), x -> x.makeNegation(0));
+            CHECK.enters("Na", Desks::workshop, x -> x.makeNegation(2));
+            CHECK.enters("NF", () -> Desks.closed(new DeductionDesk(), "F"), x -> x.makeNegation(0));
+            CHECK.enters("NNF", () -> Desks.box(Desks.proving("F"), "NF", "F"), x -> x.makeNegation(0));
         });
         EDGES.noEdge(BOX);
-        EDGES.sentence(NEW_LINE, () -> newLine(x -> x.makeNegation(2)));
+        EDGES.sentence(NEW_LINE, () -> CHECK.newLine(x -> x.makeNegation(2)));
         EDGES.sentence(NO_BOX, () -> noBox("IUU.I", (x, n) -> x.makeNegation(n)));
         EDGES.sentence(NOT_CITED, () -> {
             boxNotCited("F", '.', (x, n) -> x.makeNegation(n));
@@ -605,39 +534,39 @@ public final class EdgesOfProofTest {
             }, x -> x.makeNegation(0));
         });
         EDGES.sentence("Throws `IllegalStateException` if there are 60 lines, or the negation cannot be made", () -> {
-            noRoom(x -> x.makeNegation(2));
+            CHECK.sixty(x -> x.makeNegation(2));
             Supplier<DeductionDesk> large = () -> Desks.box(Desks.box(Desks.proving("F"), "N".repeat(28) + "b", "F"),
                     THIRTY, "F");
             CHECK.outcomes("sizes 30 and 31", large, -1, "I.SI", (x, n) -> x.makeNegation(n));
-            room(1, () -> Desks.box(Desks.proving("F"), "a", "F"), x -> x.makeNegation(0));
+            CHECK.room(1, () -> Desks.box(Desks.proving("F"), "a", "F"), x -> x.makeNegation(0));
         });
     }
 
     private static void testUseNegation() {
         EDGES.section("Promise 23: useNegation");
         EDGES.sentence("Enters falsum, from a negation and the formula that is negated.", () -> {
-            enters("F", proving("Na", "a"), x -> x.useNegation(0, 1));
-            enters("F", full("NF", "F"), x -> x.useNegation(0, 1));
-            enters("F", proving("NNa", "Na"), x -> x.useNegation(0, 1));
-            enters("F", proving(THIRTY, THIRTY.substring(1)), x -> x.useNegation(0, 1));
+            CHECK.enters("F", proving("Na", "a"), x -> x.useNegation(0, 1));
+            CHECK.enters("F", full("NF", "F"), x -> x.useNegation(0, 1));
+            CHECK.enters("F", proving("NNa", "Na"), x -> x.useNegation(0, 1));
+            CHECK.enters("F", proving(THIRTY, THIRTY.substring(1)), x -> x.useNegation(0, 1));
         });
         EDGES.noEdge("- `line`: the number of the line with the negation",
                 "- `other`: the number of a line with the formula that is negated");
-        EDGES.sentence(NEW_LINE, () -> newLine(x -> x.useNegation(5, 4)));
+        EDGES.sentence(NEW_LINE, () -> CHECK.newLine(x -> x.useNegation(5, 4)));
         EDGES.sentence(NO_LINES, () -> {
             noLine("IUI", "IUUI", (x, n) -> x.useNegation(n, 0));
             noLine("IUI", "IUUI", (x, n) -> x.useNegation(0, n));
             CHECK.outcomes("the first one", proving("a", "Na"), -1, "IU.I", (x, n) -> x.useNegation(n, 0));
             CHECK.outcomes("the other one", proving("Na", "a"), -1, "IU.I", (x, n) -> x.useNegation(0, n));
-            CHECK.outcomes("and the other one not cited", nested("a", "Na"), -1, "INNNNNNNNNI",
+            CHECK.outcomes("and the other one not cited", Desks.nested("a", "Na"), -1, "INNNNNNNNNI",
                     (x, n) -> x.useNegation(n, 3));
-            CHECK.outcomes("and the first one not cited", nested("a", "Na"), -1, "INNNNNNNNNI",
+            CHECK.outcomes("and the first one not cited", Desks.nested("a", "Na"), -1, "INNNNNNNNNI",
                     (x, n) -> x.useNegation(3, n));
         });
         EDGES.sentence(ONE_NOT_CITED, () -> {
-            notCited(nested("a", "Na"), "IU.NNNN...I", (x, n) -> x.useNegation(n, 0));
-            notCited(nested("Na", "a"), "IU.NNNN...I", (x, n) -> x.useNegation(0, n));
-            notCited(nested("a", "b"), "IUUNNNNUUUI", (x, n) -> x.useNegation(n, n));
+            CHECK.notCited(Desks.nested("a", "Na"), "IU.NNNN...I", (x, n) -> x.useNegation(n, 0));
+            CHECK.notCited(Desks.nested("Na", "a"), "IU.NNNN...I", (x, n) -> x.useNegation(0, n));
+            CHECK.notCited(Desks.nested("a", "b"), "IUUNNNNUUUI", (x, n) -> x.useNegation(n, n));
         });
         EDGES.sentence("Throws `UnsupportedOperationException` if the formula of the first line is not a negation, ..",
                 () -> {
@@ -651,36 +580,36 @@ public final class EdgesOfProofTest {
                             "ISUUUUUUUU" + "S".repeat(51) + "I", (x, n) -> x.useNegation(2, n));
                 });
         EDGES.sentence("Throws `IllegalStateException` if there are 60 lines, or falsum cannot be made", () -> {
-            noRoom(x -> x.useNegation(5, 4));
-            room(1, proving("Na", "a"), x -> x.useNegation(0, 1));
+            CHECK.sixty(x -> x.useNegation(5, 4));
+            CHECK.room(1, proving("Na", "a"), x -> x.useNegation(0, 1));
         });
     }
 
     private static void testFromFalsum() {
         EDGES.section("Promise 24: fromFalsum");
         EDGES.sentence("Enters any formula, from falsum.", () -> {
-            enters("F", full("F"), x -> x.fromFalsum(0, 0));
-            enters("NF", full("F", "NF"), x -> x.fromFalsum(0, 1));
-            enters(THIRTY, full("F", THIRTY), x -> x.fromFalsum(0, 30));
+            CHECK.enters("F", full("F"), x -> x.fromFalsum(0, 0));
+            CHECK.enters("NF", full("F", "NF"), x -> x.fromFalsum(0, 1));
+            CHECK.enters(THIRTY, full("F", THIRTY), x -> x.fromFalsum(0, 30));
             DeductionDesk last = full("F").get();
-            enters(Desks.symbols(last, 149), full("F"), x -> x.fromFalsum(0, 149));
+            CHECK.enters(Desks.symbols(last, 149), full("F"), x -> x.fromFalsum(0, 149));
         });
         EDGES.noEdge("- `line`: the number of a line with falsum", "- `formula`: the number of the formula");
-        EDGES.sentence(NEW_LINE, () -> newLine(x -> x.fromFalsum(0, 8)));
+        EDGES.sentence(NEW_LINE, () -> CHECK.newLine(x -> x.fromFalsum(0, 8)));
         EDGES.sentence(NO_LINE_OR_FORMULA, () -> {
             noLine("IUI", "IUUI", (x, n) -> x.fromFalsum(n, 0));
             CHECK.outcomes("a line", proving("F", "F"), -1, "I..I", (x, n) -> x.fromFalsum(n, 0));
             CHECK.outcomes("a formula", proving("F", "a"), -1, "I..I", (x, n) -> x.fromFalsum(0, n));
             CHECK.outcomes("a formula among 150", full("F"), -1, "I" + ".".repeat(150) + "I",
                     (x, n) -> x.fromFalsum(0, n));
-            CHECK.outcomes("a formula, the line not cited", nested("F", "a"), -1, "INNI",
+            CHECK.outcomes("a formula, the line not cited", Desks.nested("F", "a"), -1, "INNI",
                     (x, n) -> x.fromFalsum(3, n));
-            CHECK.outcomes("a formula, the line not falsum", nested("F", "a"), -1, "IUUI",
+            CHECK.outcomes("a formula, the line not falsum", Desks.nested("F", "a"), -1, "IUUI",
                     (x, n) -> x.fromFalsum(1, n));
         });
         EDGES.sentence(LINE_NOT_CITED, () -> {
-            notCited(nested("a", "F"), "IU.NNNN...I", (x, n) -> x.fromFalsum(n, 0));
-            notCited(nested("F", "a"), "I.UNNNNUUUI", (x, n) -> x.fromFalsum(n, 0));
+            CHECK.notCited(Desks.nested("a", "F"), "IU.NNNN...I", (x, n) -> x.fromFalsum(n, 0));
+            CHECK.notCited(Desks.nested("F", "a"), "I.UNNNNUUUI", (x, n) -> x.fromFalsum(n, 0));
         });
         EDGES.sentence("Throws `UnsupportedOperationException` if its formula is not falsum", () -> {
             Supplier<DeductionDesk> kinds = proving("a", "NF", "KFF", "AFF", "CFF", "NNF", "F");
@@ -688,38 +617,38 @@ public final class EdgesOfProofTest {
             CHECK.outcomes("each kind, 60 lines", sixty(kinds), -1, "IUUUUUUS" + "U".repeat(53) + "I",
                     (x, n) -> x.fromFalsum(n, 0));
         });
-        EDGES.sentence(NO_ROOM, () -> noRoom(x -> x.fromFalsum(0, 8)));
+        EDGES.sentence(NO_ROOM, () -> CHECK.sixty(x -> x.fromFalsum(0, 8)));
     }
 
     private static void testDoubleNegation() {
         EDGES.section("Promise 25: doubleNegation");
         EDGES.sentence("Enters the formula that is negated twice.", () -> {
-            enters("a", full("NNa"), x -> x.doubleNegation(0));
-            enters("F", full("NNF"), x -> x.doubleNegation(0));
-            enters("Na", full("NNNa"), x -> x.doubleNegation(0));
-            enters(THIRTY.substring(2), full(THIRTY), x -> x.doubleNegation(0));
+            CHECK.enters("a", full("NNa"), x -> x.doubleNegation(0));
+            CHECK.enters("F", full("NNF"), x -> x.doubleNegation(0));
+            CHECK.enters("Na", full("NNNa"), x -> x.doubleNegation(0));
+            CHECK.enters(THIRTY.substring(2), full(THIRTY), x -> x.doubleNegation(0));
         });
         EDGES.noEdge("- `line`: the number of the line with the double negation");
-        EDGES.sentence(NEW_LINE, () -> newLine(x -> x.doubleNegation(6)));
+        EDGES.sentence(NEW_LINE, () -> CHECK.newLine(x -> x.doubleNegation(6)));
         EDGES.sentence(NO_LINE, () -> noLine("IUI", "IU.I", (x, n) -> x.doubleNegation(n)));
         EDGES.sentence(NOT_CITED, () -> {
-            notCited(nested("a", "NNb"), "IU.NNNN...I", (x, n) -> x.doubleNegation(n));
-            notCited(nested("NNb", "a"), "I.UNNNNUUUI", (x, n) -> x.doubleNegation(n));
+            CHECK.notCited(Desks.nested("a", "NNb"), "IU.NNNN...I", (x, n) -> x.doubleNegation(n));
+            CHECK.notCited(Desks.nested("NNb", "a"), "I.UNNNNUUUI", (x, n) -> x.doubleNegation(n));
         });
-        EDGES.sentence("Throws `UnsupportedOperationException` if its formula is not the negation of a negation", () -> {
+        EDGES.sentence("Throws `UnsupportedOperationException` if its formula is not the negation ..", () -> {
             Supplier<DeductionDesk> kinds = proving("a", "F", "Na", "NKab", "NANab", "NCaa", "NF", "KNNaNNa", "NNa");
             CHECK.outcomes("each kind", kinds, -1, "IUUUUUUUU.I", (x, n) -> x.doubleNegation(n));
             CHECK.outcomes("each kind, 60 lines", sixty(kinds), -1, "IUUUUUUUUS" + "U".repeat(51) + "I",
                     (x, n) -> x.doubleNegation(n));
         });
-        EDGES.sentence(NO_ROOM, () -> noRoom(x -> x.doubleNegation(6)));
+        EDGES.sentence(NO_ROOM, () -> CHECK.sixty(x -> x.doubleNegation(6)));
     }
 
     private static void testNewProof() {
         EDGES.section("Promise 26: newProof");
         EDGES.sentence("Begins a new proof without lines and boxes.", () -> {
-            for (int i = 0; i < 3; i++) {
-                DeductionDesk desk = i == 0 ? new DeductionDesk() : i == 1 ? Desks.nested() : sixty(Desks::nested).get();
+            for (DeductionDesk desk : new DeductionDesk[] {new DeductionDesk(), Desks.nested(), Desks.workshop(),
+                sixty(Desks::nested).get()}) {
                 desk.newProof();
                 CHECK.same("lines", desk.lines(), 0);
                 CHECK.same("boxes", desk.boxes(), 0);

@@ -114,7 +114,8 @@ public final class EdgesOfTermsTest {
         String[] others = {"Kba", "Aab", "Cab", "Kaa", "NKab", "KKabc", "KaKbc", "KNab", "KaNb", "NNKab", "Kab"};
         for (String one : others) {
             for (String other : others) {
-                CHECK.same(one + " and " + other, Desks.make(desk, one) == Desks.make(desk, other), one.equals(other));
+                DeductionDesk both = Desks.with(one);
+                CHECK.same(one + " and " + other, Desks.make(both, one) == Desks.make(both, other), one.equals(other));
             }
         }
     }
@@ -234,43 +235,28 @@ public final class EdgesOfTermsTest {
         }, x -> x.formulaOf(x.useLemma(0, 0, 1)), x -> x.useLemma(1, 0, 1));
     }
 
-    /** A call that makes some new formulas has to be done where there is room for them, and not where one lacks. */
-    private static void room(String what, int due, Supplier<DeductionDesk> prepare, Consumer<DeductionDesk> call) {
-        DeductionDesk desk = Desks.fillWith(prepare.get(), 4, 150 - due);
-        CHECK.same(what + ", formulas before", desk.formulas(), 150 - due);
-        CHECK.same(what + " with just enough room", Check.outcomeOf(desk, call), '.');
-        CHECK.same(what + ", formulas behind", desk.formulas(), 150);
-        CHECK.outcome(what + " without room", 'S', () -> Desks.fillWith(prepare.get(), 4, 151 - due), call);
-        CHECK.outcome(what + " among 150", 'S', () -> Desks.fillWith(prepare.get(), 4, 150), call);
-        CHECK.outcome(what + " that is known among 150", '.', () -> {
-            DeductionDesk x = prepare.get();
-            call.accept(x);
-            return Desks.fillWith(x, 4, 150);
-        }, call);
-    }
-
     private static void testRoomForFormulas() {
         Supplier<DeductionDesk> letters = () -> Desks.with("a", "b");
-        room("a letter", 1, letters, x -> x.letter(2));
-        room("falsum", 1, letters, x -> x.falsum());
-        room("a negation", 1, letters, x -> x.negation(1));
-        room("a conjunction", 1, letters, x -> x.conjunction(0, 1));
-        room("a disjunction", 1, letters, x -> x.disjunction(1, 0));
-        room("an implication", 1, letters, x -> x.implication(1, 1));
-        room("a step with one new formula", 1, () -> Desks.with("Cab", "Na"), x -> x.normalStep(2));
-        room("a step with three", 3, () -> Desks.with("NKab"), x -> x.normalStep(3));
-        room("a normal form with one", 1, () -> Desks.with("KNaNNb"), x -> x.normalForm(5));
-        room("a normal form with five", 5, () -> Desks.with("NKKabc"), x -> x.normalForm(5));
+        CHECK.room(1, letters, x -> x.letter(2));
+        CHECK.room(1, letters, x -> x.falsum());
+        CHECK.room(1, letters, x -> x.negation(1));
+        CHECK.room(1, letters, x -> x.conjunction(0, 1));
+        CHECK.room(1, letters, x -> x.disjunction(1, 0));
+        CHECK.room(1, letters, x -> x.implication(1, 1));
+        CHECK.room(1, () -> Desks.with("Cab", "Na"), x -> x.normalStep(2));
+        CHECK.room(3, () -> Desks.with("NKab"), x -> x.normalStep(3));
+        CHECK.room(1, () -> Desks.with("KNaNNb"), x -> x.normalForm(5));
+        CHECK.room(5, () -> Desks.with("NKKabc"), x -> x.normalForm(5));
     }
 
     private static void testRoomForLines() {
-        room("a conjunction of lines", 1, () -> Desks.proving("a", "b"), x -> x.makeConjunction(0, 1));
-        room("a disjunction of a line", 1, () -> Desks.proving("a", "b"), x -> x.makeDisjunction(0, 1, true));
-        room("an implication of a box", 1, () -> Desks.box(Desks.proving("F"), "a", "b"), x -> x.makeImplication(0));
-        room("a negation of a box", 1, () -> Desks.box(Desks.proving("F"), "a", "F"), x -> x.makeNegation(0));
-        room("falsum from a negation", 1, () -> Desks.proving("Na", "a"), x -> x.useNegation(0, 1));
-        room("an instance with one new formula", 1, () -> boundLemma("Na"), x -> x.useLemma(0, 0, 0));
-        room("an instance with three", 3, () -> boundLemma("AKaNaNa"), x -> x.useLemma(0, 0, 0));
+        CHECK.room(1, () -> Desks.proving("a", "b"), x -> x.makeConjunction(0, 1));
+        CHECK.room(1, () -> Desks.proving("a", "b"), x -> x.makeDisjunction(0, 1, true));
+        CHECK.room(1, () -> Desks.box(Desks.proving("F"), "a", "b"), x -> x.makeImplication(0));
+        CHECK.room(1, () -> Desks.box(Desks.proving("F"), "a", "F"), x -> x.makeNegation(0));
+        CHECK.room(1, () -> Desks.proving("Na", "a"), x -> x.useNegation(0, 1));
+        CHECK.room(1, () -> boundLemma("Na"), x -> x.useLemma(0, 0, 0));
+        CHECK.room(3, () -> boundLemma("AKaNaNa"), x -> x.useLemma(0, 0, 0));
     }
 
     // ---- lines and boxes
@@ -285,7 +271,7 @@ public final class EdgesOfTermsTest {
             }
             CHECK.same("all lines", desk.lines(), 60);
             for (int i = 0; i < Desks.ENTERING.size(); i++) {
-                CHECK.sixty("entering call " + i, Desks.ENTERING.get(i));
+                CHECK.sixty(Desks.ENTERING.get(i));
             }
             CHECK.outcomes("a line among 60", () -> Desks.fillLines(Desks.proving("a"), 0), -1,
                     "I" + ".".repeat(60) + "I", (x, n) -> x.formulaOf(n));
@@ -527,84 +513,66 @@ public final class EdgesOfTermsTest {
 
     // ---- distances
 
-    /** Both calls have to answer this distance, or to refuse if it is -1. */
-    static void distance(String what, Supplier<DeductionDesk> prepare, String goal, int due) {
-        DeductionDesk desk = prepare.get();
-        int formula = Desks.make(desk, goal);
-        if (due >= 0) {
-            CHECK.same(what + ", the distance of " + goal, desk.distance(formula), due);
-            CHECK.same(what + ", the same distance of " + goal, desk.distanceByRounds(formula), due);
-        } else {
-            Supplier<DeductionDesk> known = () -> {
-                DeductionDesk x = prepare.get();
-                Desks.make(x, goal);
-                return x;
-            };
-            CHECK.outcome(what + ", the distance of " + goal, 'N', known, x -> x.distance(formula));
-            CHECK.outcome(what + ", the same distance of " + goal, 'N', known, x -> x.distanceByRounds(formula));
-        }
-    }
-
     private static void testDistances() {
         EDGES.sentence("The formulas in view of a goal are the parts of the formulas of all lines ..", () -> {
-            distance("no lines", DeductionDesk::new, "a", -1);
-            distance("the goal is a part of itself", () -> Desks.proving("F"), "a", 1);
-            distance("a part of a part of a line", () -> Desks.proving("CbAaKcNNd", "b", "CAaKcNNdKcNNd"), "d", 4);
-            distance("parts of a line of a closed box", () -> Desks.closed(Desks.proving("b"), "Kba"), "a", -1);
-            distance("parts of a line of an open box", () -> {
+            CHECK.distance("no lines", DeductionDesk::new, "a", -1);
+            CHECK.distance("the goal is a part of itself", () -> Desks.proving("F"), "a", 1);
+            CHECK.distance("a part of a part", () -> Desks.proving("CbAaKcNNd", "b", "CAaKcNNdKcNNd"), "d", 4);
+            CHECK.distance("parts of a line of a closed box", () -> Desks.closed(Desks.proving("b"), "Kba"), "a", -1);
+            CHECK.distance("parts of a line of an open box", () -> {
                 DeductionDesk x = Desks.proving("b");
                 x.assume(Desks.make(x, "Kba"));
                 return x;
             }, "a", 1);
-            distance("parts of the goal", () -> Desks.proving("a"), "KAabAca", 3);
-            distance("falsum that is not known", () -> Desks.proving("Na", "a"), "b", 2);
-            distance("falsum that is known", () -> {
+            CHECK.distance("parts of the goal", () -> Desks.proving("a"), "KAabAca", 3);
+            CHECK.distance("falsum that is not known", () -> Desks.proving("Na", "a"), "b", 2);
+            CHECK.distance("falsum that is known", () -> {
                 DeductionDesk x = Desks.proving("Na", "a");
                 x.falsum();
                 return x;
             }, "b", 2);
-            distance("falsum beside 150 formulas", () -> {
+            CHECK.distance("falsum beside 150 formulas", () -> {
                 DeductionDesk x = Desks.proving("Na", "a");
                 Desks.make(x, "b");
                 return Desks.fillWith(x, 4, 150);
             }, "b", 2);
         });
         EDGES.sentence("The distance of a formula in view is 0 if it is the formula of a line that can be ..", () -> {
-            distance("a premise", () -> Desks.proving("Kab"), "Kab", 0);
-            distance("falsum", () -> Desks.proving("a", "F"), "F", 0);
-            distance("an assumption", Desks::nested, "e", 0);
-            distance("a line among 60", () -> Desks.fillLinesTo(Desks.proving("b", "a"), 0, 60), "a", 0);
-            distance("a line of a closed box", () -> Desks.closed(Desks.proving("b"), "a"), "a", -1);
-            distance("a line of an open and one of a closed box", () -> Desks.closed(Desks.proving("a"), "a"), "a", 0);
+            CHECK.distance("a premise", () -> Desks.proving("Kab"), "Kab", 0);
+            CHECK.distance("falsum", () -> Desks.proving("a", "F"), "F", 0);
+            CHECK.distance("an assumption", Desks::nested, "e", 0);
+            CHECK.distance("a line among 60", () -> Desks.fillLinesTo(Desks.proving("b", "a"), 0, 60), "a", 0);
+            CHECK.distance("a line of a closed box", () -> Desks.closed(Desks.proving("b"), "a"), "a", -1);
+            CHECK.distance("two lines, one in a closed box", () -> Desks.closed(Desks.proving("a"), "a"), "a", 0);
         });
         EDGES.sentence("Otherwise, it is the least number that can be found by a rule from other formulas ..", () -> {
-            distance("the same formula twice", () -> Desks.proving("NNa"), "Kaa", 3);
-            distance("the same line twice", () -> Desks.proving("a"), "Kaa", 1);
-            distance("the same formula by two formulas", () -> Desks.proving("NNa"), "KAabAba", 5);
-            distance("the left and the right formula", () -> Desks.proving("NNa", "NNb"), "Kba", 3);
-            distance("one formula alone", () -> Desks.proving("NNa"), "Kab", -1);
-            distance("the left formula of a conjunction", () -> Desks.proving("NNKab"), "a", 2);
-            distance("the right formula of a conjunction", () -> Desks.proving("NNKab"), "b", 2);
-            distance("a disjunction from the left formula", () -> Desks.proving("NNa"), "Aab", 2);
-            distance("a disjunction from the right formula", () -> Desks.proving("NNa"), "Aba", 2);
-            distance("a disjunction from the nearer formula", () -> Desks.proving("NNa", "b"), "Aab", 1);
-            distance("the right formula of an implication", () -> Desks.proving("NNCab", "NNa"), "b", 3);
-            distance("an implication alone", () -> Desks.proving("Cab", "b"), "a", -1);
-            distance("falsum from a negation", () -> Desks.proving("NNNa", "NNa"), "F", 1);
-            distance("falsum from a negation that is found", () -> Desks.proving("NNNa", "Kab"), "F", 3);
-            distance("any formula from falsum", () -> Desks.proving("NNF"), "Cab", 2);
-            distance("a double negation", () -> Desks.proving("NNNa"), "Na", 1);
-            distance("the least of three ways", () -> Desks.proving("KKKabbb", "NNNNa", "CNNba", "NNb"), "a", 1);
-            distance("a rule that is not named", () -> Desks.proving("Aaa"), "a", -1);
+            CHECK.distance("the same formula twice", () -> Desks.proving("NNa"), "Kaa", 3);
+            CHECK.distance("the same line twice", () -> Desks.proving("a"), "Kaa", 1);
+            CHECK.distance("the same formula by two formulas", () -> Desks.proving("NNa"), "KAabAba", 5);
+            CHECK.distance("the left and the right formula", () -> Desks.proving("NNa", "NNb"), "Kba", 3);
+            CHECK.distance("one formula alone", () -> Desks.proving("NNa"), "Kab", -1);
+            CHECK.distance("the left formula of a conjunction", () -> Desks.proving("NNKab"), "a", 2);
+            CHECK.distance("the right formula of a conjunction", () -> Desks.proving("NNKab"), "b", 2);
+            CHECK.distance("a disjunction from the left formula", () -> Desks.proving("NNa"), "Aab", 2);
+            CHECK.distance("a disjunction from the right formula", () -> Desks.proving("NNa"), "Aba", 2);
+            CHECK.distance("a disjunction from the nearer formula", () -> Desks.proving("NNa", "b"), "Aab", 1);
+            CHECK.distance("the right formula of an implication", () -> Desks.proving("NNCab", "NNa"), "b", 3);
+            CHECK.distance("an implication alone", () -> Desks.proving("Cab", "b"), "a", -1);
+            CHECK.distance("falsum from a negation", () -> Desks.proving("NNNa", "NNa"), "F", 1);
+            CHECK.distance("falsum from a negation that is found", () -> Desks.proving("NNNa", "Kab"), "F", 3);
+            CHECK.distance("any formula from falsum", () -> Desks.proving("NNF"), "Cab", 2);
+            CHECK.distance("a double negation", () -> Desks.proving("NNNa"), "Na", 1);
+            CHECK.distance("the least of three ways", () -> Desks.proving("KKKabbb", "NNNNa", "CNNba", "NNb"), "a", 1);
+            CHECK.distance("a rule that is not named", () -> Desks.proving("Aaa"), "a", -1);
         });
         EDGES.sentence("A distance that would be greater than 9999 does not count: ..", () -> {
-            distance("9998", () -> Desks.chain("dd+d+d+dddd+dddd"), "CeCeCec", 9998);
-            distance("9999", () -> Desks.chain("dd+d+d+dddd+dddd+"), "CeCeCed", 9999);
-            distance("10000", () -> Desks.chain("dd+d+d+dddd+dddd++"), "CeCeCee", -1);
-            distance("9999 by the rule for disjunctions", () -> Desks.chain("dd+d+d+dddd+dddd"), "ACeCeCece", 9999);
-            distance("10000 by this rule", () -> Desks.chain("dd+d+d+dddd+dddd+"), "ACeCeCede", -1);
-            distance("9999 by a conjunction", () -> Desks.chain("dd+d+d+dddd+dddd"), "KaCeCeCec", 9999);
-            distance("10000 by a conjunction", () -> Desks.chain("dd+d+d+dddd+dddd+"), "KCeCeCeda", -1);
+            CHECK.distance("9998", () -> Desks.chain("dd+d+d+dddd+dddd"), "CeCeCec", 9998);
+            CHECK.distance("9999", () -> Desks.chain("dd+d+d+dddd+dddd+"), "CeCeCed", 9999);
+            CHECK.distance("10000", () -> Desks.chain("dd+d+d+dddd+dddd++"), "CeCeCee", -1);
+            CHECK.distance("9999 by a disjunction", () -> Desks.chain("dd+d+d+dddd+dddd"), "ACeCeCece", 9999);
+            CHECK.distance("10000 by a disjunction", () -> Desks.chain("dd+d+d+dddd+dddd+"), "ACeCeCede", -1);
+            CHECK.distance("9999 by a conjunction", () -> Desks.chain("dd+d+d+dddd+dddd"), "KaCeCeCec", 9999);
+            CHECK.distance("10000 by a conjunction", () -> Desks.chain("dd+d+d+dddd+dddd+"), "KCeCeCeda", -1);
         });
     }
 

@@ -11,6 +11,7 @@ import java.util.Set;
 import java.util.TreeSet;
 import java.util.regex.Matcher;
 import java.util.regex.Pattern;
+import java.util.stream.Stream;
 
 /** The public face is that of ../shared/DOC.md, and the file keeps to what can be seen of ../shared/LANGUAGE.md. */
 public final class FaceTest {
@@ -28,6 +29,7 @@ public final class FaceTest {
         testClassesInside();
         testWords(Files.readString(SOURCE));
         testLengths(Files.readAllLines(SOURCE));
+        testSections();
         CHECK.end();
     }
 
@@ -58,7 +60,8 @@ public final class FaceTest {
         }
         for (Method each : DeductionDesk.class.getDeclaredMethods()) {
             if (!Modifier.isPrivate(each.getModifiers())) {
-                String throwing = each.getExceptionTypes().length == 0 ? "" : " throws " + list(each.getExceptionTypes());
+                Class<?>[] thrown = each.getExceptionTypes();
+                String throwing = thrown.length == 0 ? "" : " throws " + list(thrown);
                 face.add(Modifier.toString(each.getModifiers()) + " " + each.getReturnType().getSimpleName() + " "
                         + each.getName() + "(" + list(each.getParameterTypes()) + ")" + throwing);
             }
@@ -145,6 +148,20 @@ public final class FaceTest {
                     start = 0;
                 }
             }
+        }
+    }
+
+    /** Each section of the document that promises something is gone through by a test, sentence by sentence. */
+    private static void testSections() throws IOException {
+        StringBuilder tests = new StringBuilder();
+        try (Stream<Path> files = Files.list(Path.of("src/test/java"))) {
+            for (Path each : files.filter(x -> x.getFileName().toString().startsWith("EdgesOf")).toList()) {
+                tests.append(Files.readString(each));
+            }
+        }
+        for (String heading : Edges.readDocument().keySet()) {
+            boolean isGoneThrough = !heading.equals("The public face") && !heading.equals("Not promised");
+            CHECK.same("the section " + heading, tests.indexOf("(\"" + heading + "\"") >= 0, isGoneThrough);
         }
     }
 }

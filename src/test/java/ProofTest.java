@@ -173,7 +173,8 @@ public final class ProofTest {
         entered("promise 17: the left formula", desk, desk.useConjunction(0, false), "Na", 'l');
         entered("promise 17: the right formula", desk, desk.useConjunction(0, true), "b", 'r');
         CHECK.same("promise 17: no formula is made", desk.formulas(), 4);
-        Supplier<DeductionDesk> behind = () -> Desks.closed(Desks.proving("Kab", "Aab", "Cab", "NKab", "a", "F"), "Kaa");
+        Supplier<DeductionDesk> behind = () -> Desks.closed(
+                Desks.proving("Kab", "Aab", "Cab", "NKab", "a", "F"), "Kaa");
         refusesNumbers("promise 17: no line", behind, 7, (x, n) -> x.useConjunction(n, true));
         CHECK.refuses("promise 17: not cited", NO_SUCH, behind, x -> x.useConjunction(6, false));
         for (int line = 1; line < 6; line++) {
@@ -216,7 +217,8 @@ public final class ProofTest {
         entered("promise 19: the same box twice", desk, desk.useDisjunction(7, 1, 1), "c", 'v');
         Desks.closed(Desks.closed(desk, "Na"), "b");
         Supplier<DeductionDesk> cases = () -> {
-            DeductionDesk x = Desks.box(Desks.box(Desks.box(Desks.proving("F", "ANab", "KNab"), "Na", "c"), "b", "c"), "b", "d");
+            DeductionDesk x = Desks.box(Desks.box(Desks.proving("F", "ANab", "KNab"), "Na", "c"), "b", "c");
+            Desks.box(x, "b", "d");
             x.assume(Desks.make(x, "b"));
             x.assume(Desks.make(x, "ANab"));
             x.closeBox();
@@ -366,7 +368,8 @@ public final class ProofTest {
     private static void testDoubleNegation() {
         DeductionDesk desk = Desks.proving("NNNKab");
         entered("promise 25: the formula negated twice", desk, desk.doubleNegation(0), "NKab", 'd');
-        Supplier<DeductionDesk> lines = () -> Desks.closed(Desks.proving("NNa", "Na", "a", "NKNab", "F", "KNNab"), "NNa");
+        Supplier<DeductionDesk> lines = () -> Desks.closed(
+                Desks.proving("NNa", "Na", "a", "NKNab", "F", "KNNab"), "NNa");
         refusesNumbers("promise 25: no line", lines, 7, (x, n) -> x.doubleNegation(n));
         CHECK.refuses("promise 25: not cited", NO_SUCH, lines, x -> x.doubleNegation(6));
         for (int line = 1; line < 6; line++) {
