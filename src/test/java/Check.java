@@ -58,7 +58,8 @@ final class Check {
         for (int below : new int[] {Integer.MIN_VALUE, Integer.MIN_VALUE + 1, -60, -2}) {
             outcome(what + " with " + below, due.charAt(0), prepare, x -> call.accept(x, below));
         }
-        for (int above : new int[] {last + 1, 151, 1 << 27, Integer.MAX_VALUE}) {
+        // 30 times 143165577 is 14, if what is beyond an int is lost.
+        for (int above : new int[] {last + 1, 151, 143165577, Integer.MAX_VALUE}) {
             outcome(what + " with " + above, due.charAt(due.length() - 1), prepare, x -> call.accept(x, above));
         }
     }

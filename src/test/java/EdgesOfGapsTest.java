@@ -22,7 +22,8 @@ public final class EdgesOfGapsTest {
 
     public static void main(String[] args) {
         EDGES.section("Promise 40: distance");
-        EDGES.noEdge("Returns the distance of a goal, found by a queue of formulas in ascending order of their ..");
+        EDGES.sentence("Returns the distance of a goal, found by a queue of formulas in ascending order of their ..",
+                EdgesOfGapsTest::testNearerWays);
         testDistances((x, n) -> x.distance(n));
         EDGES.section("Promise 41: distanceByRounds");
         EDGES.sentence("Returns the same distance, found by rounds over all formulas in view until no ..",
@@ -118,10 +119,53 @@ public final class EdgesOfGapsTest {
             CHECK.same("a link of a long chain", desk.distanceByRounds(link), 61 - link);
             CHECK.same("the same distance", desk.distance(link), 61 - link);
         }
+    }
+
+    private static void testNearerWays() {
         // Kba is reached at 5 from a and b, before it is reached at 4 by e, which is found later than a and b.
-        CHECK.distance("a nearer way that is found later", () -> Desks.proving("KKabKcd", "Cce", "CeKba"), "Kba", 4);
-        CHECK.distance("a disjunction that is found by three ways", () -> Desks.proving("NNNNNNa", "KKKbccc", "CbAab"),
-                "Aab", 4);
+        Supplier<DeductionDesk> later = () -> Desks.proving("KKabKcd", "Cce", "CeKba");
+        CHECK.distance("a nearer way that is found later", later, "Kba", 4);
+        CHECK.distance("what is found from it", later, "AdKba", 3);
+        CHECK.distance("what is found from it alone", later, "AAFKbaF", 6);
+        CHECK.distance("ways of the same length", () -> Desks.proving("NNNNNNa", "KKKbccc", "CbAab"), "Aab", 4);
+        CHECK.distance("a longer way that is found later", () -> Desks.proving("KKKabcd", "CcCda"), "a", 3);
+        CHECK.distance("falsum at last", () -> Desks.proving("NKab", "a", "KKbcd"), "e", 5);
+        // Where Kba moves forward, KcKab stands before it at 4, and Kbb and KbKbb behind it at 5 and 8.
+        CHECK.distance("from one that stands before", () -> Desks.proving("KKabKcd", "Cce", "CeKba", "CKcKabNc"), "Nc", 5);
+        CHECK.distance("from the next one", () -> Desks.proving("KKabKcd", "Cce", "CeKba", "CKbbNb"), "Nb", 6);
+        CHECK.distance("from the last one", () -> Desks.proving("KKabKcd", "Cce", "CeKba", "CKbKbbNa"), "Na", 9);
+        String[] goals = {"Aac", "Aca", "AAaca", "Kaa", "KaNNa", "KNNaa", "AcKaa"};
+        int[] due = {2, 2, 2, 3, 2, 2, 4};
+        for (int i = 0; i < due.length; i++) {
+            String goal = goals[i];
+            CHECK.distance("a goal that is known before the line", () -> {
+                DeductionDesk x = Desks.with(goal);
+                x.premise(Desks.make(x, "NNa"));
+                return x;
+            }, goal, due[i]);
+        }
+        testOneProofAfterTheOther();
+    }
+
+    /** What has been found for a proof tells nothing of the next one. */
+    private static void testOneProofAfterTheOther() {
+        DeductionDesk desk = chainAgainstNumbers();
+        CHECK.same("a far goal", desk.distance(2), 59);
+        CHECK.same("a near goal", desk.distance(60), 1);
+        desk.newProof();
+        CHECK.same("no lines", Check.outcomeOf(desk, x -> x.distance(2)), 'N');
+        for (int line = 0; line < 59; line++) {
+            desk.premise(62 + line);
+        }
+        CHECK.same("without the chain's end", Check.outcomeOf(desk, x -> x.distance(2)), 'N');
+        desk.premise(32);
+        CHECK.same("from the middle of the chain", desk.distance(2), 30);
+        CHECK.same("behind the middle", Check.outcomeOf(desk, x -> x.distance(33)), 'N');
+        desk.newProof();
+        desk.premise(desk.negation(desk.negation(0)));
+        CHECK.same("a shorter proof", desk.distance(0), 1);
+        CHECK.same("what is not found in it", Check.outcomeOf(desk, x -> x.distance(2)), 'N');
+        CHECK.same("an implication of it", Check.outcomeOf(desk, x -> x.distance(70)), 'N');
     }
 
     // ---- normal forms

@@ -291,6 +291,14 @@ public final class EdgesOfLemmasTest {
                 return x;
             }, x -> x.useLemma(0, 0, 1));
         }
+        CHECK.outcome("a premise that is the last formula of all", 'U', () -> {
+            DeductionDesk x = Desks.with("Kcd", "Kaa");
+            x.premise(x.formulas() - 1);
+            x.keepLemma();
+            x.newProof();
+            x.premise(2);
+            return x;
+        }, x -> x.useLemma(0, 0, 0));
         CHECK.outcome("no instance among 60 lines", 'U', () -> {
             DeductionDesk x = keep(new DeductionDesk(), "b", "Na");
             x.premise(Desks.make(x, "a"));
@@ -308,6 +316,15 @@ public final class EdgesOfLemmasTest {
         };
         CHECK.outcomes("sizes 30 and 32", sizes, -1, "I.SI", (x, n) -> x.useLemma(0, n, -1));
         CHECK.outcomes("sizes 29 and 31", sizes, -1, "I.SI", (x, n) -> x.useLemma(1, n, -1));
+        Supplier<DeductionDesk> two = () -> {
+            DeductionDesk x = keep(new DeductionDesk(), "Kab", "a", "b");
+            x.premise(Desks.make(x, THIRTY.substring(4)));
+            x.premise(Desks.make(x, THIRTY.substring(3)));
+            x.premise(Desks.make(x, "c"));
+            return x;
+        };
+        CHECK.outcomes("sizes 30 and 31 with a letter at the end", two, -1, "I.S.I", (x, n) -> x.useLemma(0, n, 2));
+        CHECK.outcomes("sizes 30 and 31 with a letter before", two, -1, "I.S.I", (x, n) -> x.useLemma(0, 2, n));
         Supplier<DeductionDesk> bound = () -> {
             DeductionDesk x = threeLemmas();
             Desks.make(x, THIRTY);

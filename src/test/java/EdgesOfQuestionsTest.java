@@ -305,12 +305,34 @@ public final class EdgesOfQuestionsTest {
         CHECK.same(what, desk.needed(), due);
     }
 
+    /** Lines whose numbers are those of boxes, and line 0, are not needed for this. */
+    private static void testNumbersOfNeededLines() {
+        Supplier<DeductionDesk> desk = () -> {
+            DeductionDesk x = Desks.proving("e", "d", "c", "Aab", "F");
+            for (String each : new String[] {"a", "b", "c"}) {
+                x.assume(Desks.make(x, each));
+                x.makeConjunction(2, 2);
+                x.fromFalsum(4, Desks.make(x, "F"));
+                x.closeBox();
+            }
+            return x;
+        };
+        // Each of the boxes 0 to 2 needs its two lines, and line 4.
+        needs("two boxes and a line", desk.get(), 7, x -> x.useDisjunction(3, 0, 1));
+        needs("an implication by a box", desk.get(), 4, x -> x.makeImplication(2));
+        needs("a negation by a box", desk.get(), 4, x -> x.makeNegation(1));
+        needs("a formula from falsum", desk.get(), 2, x -> x.fromFalsum(4, 0));
+        needs("a conjunction", desk.get(), 3, x -> x.makeConjunction(2, 3));
+        needs("a repeated line", desk.get(), 2, x -> x.repeat(2));
+    }
+
     private static void testNeededLines() {
         // In the workshop, each box has a first line and a line from falsum, which is line 0.
         int[] due = {1, 1, 2, 3, 2, 2, 2, 2, 7, 4, 3, 4, 3, 2, 2, 2};
         for (int i = 0; i < due.length; i++) {
             needs("entering call " + i, Desks.workshop(), due[i], Desks.ENTERING.get(i));
         }
+        testNumbersOfNeededLines();
         needs("a line twice", Desks.proving("a"), 2, x -> x.makeConjunction(0, 0));
         needs("a box of one line", Desks.closed(new DeductionDesk(), "a"), 2, x -> x.makeImplication(0));
         needs("the same box twice", Desks.closed(Desks.proving("Aaa"), "a"), 3, x -> x.useDisjunction(0, 0, 0));

@@ -683,9 +683,30 @@ public final class EdgesOfTermsTest {
 
     // ---- exceptions
 
+    /** Formulas that a refused call would have made have no number that is taken from the next ones. */
+    private static void testNumbersBehindRefusals() {
+        DeductionDesk desk = Desks.fillWith(Desks.with("NKKabc"), 4, 148);
+        CHECK.same("no room for five", Check.outcomeOf(desk, x -> x.normalForm(5)), 'S');
+        CHECK.same("no room for three", Check.outcomeOf(desk, x -> x.normalStep(5)), 'S');
+        CHECK.same("the next normal form", desk.normalForm(2), 2);
+        CHECK.same("the normal form behind it", desk.normalForm(2), 2);
+        CHECK.same("the next formula", desk.falsum(), 148);
+        CHECK.same("its symbols", Desks.symbols(desk, 148), "F");
+        CHECK.same("its models", desk.models(148), 0);
+        CHECK.same("its models by rows", desk.modelsByRows(148), 0);
+        CHECK.same("the last formula", desk.implication(148, 0), 149);
+        CHECK.same("its symbols", Desks.symbols(desk, 149), "CFa");
+        CHECK.same("its models", desk.models(149), 32);
+        CHECK.same("its models by rows", desk.modelsByRows(149), 32);
+        desk.premise(148);
+        CHECK.same("its distance", desk.distance(149), 1);
+        CHECK.same("the same distance", desk.distanceByRounds(149), 1);
+    }
+
     private static void testExceptions() {
         EDGES.sentence("A method that throws an exception changes nothing.", () -> {
             Stairs.testEachExceptionAlone(CHECK);
+            testNumbersBehindRefusals();
         });
         EDGES.sentence("If several exceptions apply, the one that is documented first is thrown.", () -> {
             Stairs.testSeveralExceptions(CHECK);
