@@ -1,6 +1,4 @@
 import java.util.function.BiConsumer;
-import java.util.function.Consumer;
-import java.util.function.Function;
 import java.util.function.Supplier;
 
 /** Promises 12 to 26: each sentence that names a boundary case, with a test of its own. */

@@ -1,3 +1,4 @@
+import java.util.Arrays;
 import java.util.function.Consumer;
 import java.util.function.Function;
 import java.util.function.Supplier;
@@ -409,7 +410,7 @@ public final class EdgesOfTermsTest {
 
     // ---- lemmas
 
-    /** A desk with these premises alone, and with a lemma of other ones, whose conclusion comes from falsum. */
+    /** A desk with a lemma that has these premises; its conclusion is the implication of falsum and a formula. */
     private static DeductionDesk lemma(String conclusion, String... premises) {
         DeductionDesk desk = Desks.proving(premises);
         desk.assume(desk.falsum());
@@ -452,8 +453,11 @@ public final class EdgesOfTermsTest {
             CHECK.outcomes("a lemma among 8", () -> keeping(8), -1, "I........I", (x, n) -> x.conclusionOf(n));
             String[] premises = {"a", "b", "c"};
             for (int count = 0; count < 3; count++) {
-                DeductionDesk some = lemma("d", java.util.Arrays.copyOf(premises, count));
+                DeductionDesk some = lemma("d", Arrays.copyOf(premises, count));
                 CHECK.same("a lemma with " + count + " premises", Desks.symbols(some, some.conclusionOf(0)), "CFd");
+                proving(some, "a", "b");
+                CHECK.same("its first premise", Check.outcomeOf(some, x -> x.useLemma(0, 9, 1)), count > 0 ? 'I' : '.');
+                CHECK.same("its second one", Check.outcomeOf(some, x -> x.useLemma(0, 0, 9)), count > 1 ? 'I' : '.');
             }
             CHECK.outcome("a lemma with 3 premises", 'U', () -> Desks.proving(premises), x -> x.keepLemma());
         });
